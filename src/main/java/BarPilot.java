@@ -1,0 +1,1793 @@
+import java.util.Arrays;
+
+/** A bar whose pilot lets no ship past without a joke that he has not heard; the document DOC.md tells every call. */
+public final class BarPilot {
+
+    public static final int NONE = -1;
+
+    private static final int MOST_BYTES = 400;
+    private static final int MOST_RULES = 6;
+    private static final int MOST_IMAGES = 4;
+    private static final int MOST_JOKES = 8;
+    private static final int MOST_SHIPS = 5;
+    private static final int MOST_ACTS = 20;
+    private static final int MOST_NOTES = 10;
+    private static final int LAST_TIDE = 999;
+    private static final int FAR_TIDES = 100;
+    private static final int MANY_TIDES = 60;
+    // So long ago that it lies behind every FADES and behind the 99 of "since".
+    private static final int NEVER = -100000;
+
+    private final Tape tape;
+    private final BarReader barReader;
+    private final RuleReader ruleReader;
+    private final Rule[] rules;
+    private final Book book;
+    private final Book[] images;
+    private final Pilot pilot;
+    private final Asker asker;
+    private int ruleCount;
+
+    public BarPilot() {
+        tape = new Tape();
+        barReader = new BarReader(tape);
+        ruleReader = new RuleReader(tape);
+        rules = new Rule[MOST_RULES];
+        book = new Book();
+        images = new Book[MOST_IMAGES];
+        pilot = new Pilot(book.told);
+        asker = new Asker(book, pilot);
+        ruleCount = 0;
+    }
+
+    // ---- the tape, the bar and the rules
+
+    public int feed(int a, int b, int c, int d, int e) {
+        if (tape.length + 20 > MOST_BYTES) {
+            return NONE;
+        }
+        tape.put(a);
+        tape.put(b);
+        tape.put(c);
+        tape.put(d);
+        tape.put(e);
+        return tape.length;
+    }
+
+    public int end(int n) {
+        if (n < 0 || n > tape.length) {
+            return NONE;
+        }
+        tape.length = n;
+        return n;
+    }
+
+    public int bar() {
+        int fault = barReader.read();
+        tape.length = 0;
+        if (fault != 0) {
+            return -2 - fault;
+        }
+        book.open(barReader.told);
+        return book.told.ships;
+    }
+
+    public int rule() {
+        if (ruleCount >= MOST_RULES) {
+            return NONE;
+        }
+        int fault = ruleReader.read();
+        tape.length = 0;
+        if (fault != 0) {
+            return -2 - fault;
+        }
+        rules[ruleCount] = ruleReader.made();
+        ruleCount++;
+        return ruleCount - 1;
+    }
+
+    public int force(int rule) {
+        if (!isRuleOrNone(rule)) {
+            return -2;
+        }
+        int was = book.force;
+        book.force = rule;
+        return was;
+    }
+
+    // ---- what is so now
+
+    public int joke(int joke, int what) {
+        if (!isJoke(joke)) {
+            return NONE;
+        }
+        int memory = book.told.remembered(book.scene);
+        switch (what) {
+            case 0:
+            case 1:
+            case 2:
+                return book.told.part[3 * joke + what];
+            case 3:
+                return memory >> joke & 1;
+            case 4:
+                return book.told.isNew(joke, memory) ? 1 : 0;
+            case 5:
+                return book.scene.since(joke);
+            default:
+                return NONE;
+        }
+    }
+
+    public int ship(int ship, int what) {
+        if (!isShip(ship)) {
+            return -2;
+        }
+        switch (what) {
+            case 0:
+                return book.told.cargo[ship];
+            case 1:
+                return book.told.keeps[ship];
+            case 2:
+                return book.scene.knows[ship];
+            case 3:
+                return book.scene.passed[ship];
+            default:
+                return -2;
+        }
+    }
+
+    public int count(int what) {
+        switch (what) {
+            case 0:
+                return book.told.fades;
+            case 1:
+                return book.told.like;
+            case 2:
+                return book.told.jokes;
+            case 3:
+                return book.told.ships;
+            case 4:
+                return ruleCount;
+            case 5:
+                return book.force;
+            case 6:
+                return book.scene.tide;
+            case 7:
+                return book.told.earned(book.scene);
+            case 8:
+                return book.told.waiting(book.scene);
+            case 9:
+                return book.told.remembered(book.scene);
+            case 10:
+                return book.notes;
+            case 11:
+                return book.acts;
+            case 12:
+                return book.x;
+            case 13:
+                return tape.length;
+            default:
+                return NONE;
+        }
+    }
+
+    // ---- acts
+
+    public int tide() {
+        if (!book.told.there || book.scene.tide >= LAST_TIDE) {
+            return NONE;
+        }
+        book.keepAct();
+        pilot.rule = ruleAt(book.force);
+        return pilot.oneTide(book.scene);
+    }
+
+    public int say(int ship, int joke) {
+        if (!isWaiting(ship) || !isJoke(joke) || !book.scene.isKnown(ship, joke)) {
+            return NONE;
+        }
+        book.keepAct();
+        pilot.meet(book.scene);
+        return pilot.hears(ship, joke) ? 1 : 0;
+    }
+
+    public int trade(int one, int other) {
+        if (!isWaiting(one) || !isWaiting(other) || book.scene.knows[one] == book.scene.knows[other]) {
+            return NONE;
+        }
+        book.keepAct();
+        return book.scene.share(one, other);
+    }
+
+    public int coin(int ship, int joke) {
+        if (!isWaiting(ship) || !isJoke(joke) || book.scene.isKnown(ship, joke)) {
+            return NONE;
+        }
+        book.keepAct();
+        book.scene.knows[ship] |= 1 << joke;
+        return book.scene.knows[ship];
+    }
+
+    public int dull(int joke) {
+        if (!isJoke(joke) || (book.told.remembered(book.scene) >> joke & 1) == 0) {
+            return NONE;
+        }
+        book.keepAct();
+        int ago = book.scene.since(joke);
+        book.scene.heard[joke] = NEVER;
+        return ago;
+    }
+
+    public int undo() {
+        return book.undoAct() ? book.acts : -2;
+    }
+
+    // ---- what would be
+
+    public int ahead(int ship, int n, int what) {
+        boolean ofShip = what == 0 && isShip(ship);
+        if (!book.told.there || !isWithin(n, 0, FAR_TIDES) || !(ofShip || what == 1 || what == 2)) {
+            return -2;
+        }
+        Scene then = asking().later(n);
+        if (ofShip) {
+            return then.passed[ship];
+        }
+        return what == 1 ? book.told.earned(then) : book.told.passed(then);
+    }
+
+    public int over(int ship, int what) {
+        if (!isWaiting(ship) || !isWithin(what, 0, 1)) {
+            return NONE;
+        }
+        if (!asking().findPassing(ship)) {
+            return -2;
+        }
+        return what == 0 ? asker.amount : asker.first;
+    }
+
+    public int alike(int one, int other) {
+        if (!isJoke(one) || !isJoke(other)) {
+            return NONE;
+        }
+        return book.told.partsAlike(one, other);
+    }
+
+    public int fresh() {
+        if (!book.told.there) {
+            return NONE;
+        }
+        return book.told.newOnes(book.told.remembered(book.scene));
+    }
+
+    public int least() {
+        if (!book.told.there) {
+            return NONE;
+        }
+        return book.told.leastUnlike();
+    }
+
+    public int row(int ship, int n, int what) {
+        if (!isWaiting(ship) || !isWithin(n, 1, 4) || !isWithin(what, 0, 4)) {
+            return -3;
+        }
+        int last = what > n ? NONE : asking().findRow(ship, n);
+        if (last == NONE) {
+            return -2;
+        }
+        if (what == 0) {
+            return book.scene.tide + last;
+        }
+        return what - 1 <= last ? asker.choice[what - 1] : NONE;
+    }
+
+    public int forget(int n, int what) {
+        if (!book.told.there || !isWithin(n, 1, MANY_TIDES) || !isWithin(what, 0, 1)) {
+            return -2;
+        }
+        asking().findForgotten(n);
+        return what == 0 ? asker.first : asker.amount;
+    }
+
+    public int barter(int n, int what) {
+        if (!book.told.there || !isWithin(n, 1, MANY_TIDES) || !isWithin(what, 0, 2)) {
+            return -2;
+        }
+        asking().findTraders(n);
+        if (what == 2) {
+            return asker.amount;
+        }
+        return what == 0 ? asker.first : asker.second;
+    }
+
+    public int school(int n, int what) {
+        if (!book.told.there || !isWithin(n, 1, MANY_TIDES) || !isWithin(what, 0, 1)) {
+            return NONE;
+        }
+        int set = asking().findLessons(n);
+        if (set == NONE) {
+            return -2;
+        }
+        return what == 0 ? Integer.bitCount(set) : set;
+    }
+
+    public int old(int rule, int n, int many, int what) {
+        if (!book.told.there || !isRuleOrNone(rule) || !isWithin(n, 1, MANY_TIDES)
+                || !isWithin(many, 0, MOST_SHIPS) || !isWithin(what, 0, 2)) {
+            return -3;
+        }
+        asker.findOldSets(ruleAt(rule), n, many);
+        if (what == 0) {
+            return asker.amount;
+        }
+        if (what == 1) {
+            return asker.amount == 0 ? -2 : asker.first;
+        }
+        return asker.amount == 0 ? 0 : asker.second;
+    }
+
+    public int game(int one, int other, int n, int what) {
+        if (one == other || !isWaiting(one) || !isWaiting(other) || !isWithin(n, 1, 3) || !isWithin(what, 0, 1)) {
+            return -1000;
+        }
+        asker.playGame(one, other, n);
+        return what == 0 ? asker.amount : asker.first;
+    }
+
+    public int parts(int purse, int ship) {
+        if (!isShip(ship) || !isWithin(purse, 0, 9999)) {
+            return NONE;
+        }
+        return book.told.partOf(purse, ship, book.scene);
+    }
+
+    public int order(int ship) {
+        if (!isShip(ship)) {
+            return NONE;
+        }
+        return asking().placeOf(ship);
+    }
+
+    // ---- notes
+
+    public int note(int n, int ship, int joke) {
+        if (n == NONE) {
+            book.notes = 0;
+            return 0;
+        }
+        boolean right = isWithin(n, 0, MANY_TIDES) && isShip(ship) && (joke == NONE || isJoke(joke));
+        if (!right || book.notes >= MOST_NOTES) {
+            return -2;
+        }
+        book.addNote(n, ship, joke);
+        return book.notes;
+    }
+
+    public int ruled(int what) {
+        if (!book.told.there || !isWithin(what, 0, 1)) {
+            return -3;
+        }
+        asker.tryRules(rules, ruleCount, NONE);
+        if (what == 0) {
+            return asker.amount;
+        }
+        return asker.amount == 0 ? -2 : asker.first;
+    }
+
+    public int look(int n, int what) {
+        if (!book.told.there || !isWithin(n, 0, MANY_TIDES) || !isWithin(what, 0, 1)) {
+            return NONE;
+        }
+        asker.tryRules(rules, ruleCount, n);
+        if (asker.amount == 0 || book.told.ships == 0) {
+            return -2;
+        }
+        asker.findParting(ruleCount);
+        return what == 0 ? asker.first : asker.amount;
+    }
+
+    // ---- parrots
+
+    public int seed(int x) {
+        if (x < 0) {
+            return NONE;
+        }
+        int was = book.x;
+        book.x = x;
+        return was;
+    }
+
+    public int parrots(int m, int n, int p, int what) {
+        if (!book.told.there || !isWithin(m, 1, 10) || !isWithin(n, 1, MANY_TIDES)
+                || !isWithin(p, 0, 100) || !isWithin(what, 0, 1)) {
+            return NONE;
+        }
+        asking().drawYears(m, n, p);
+        return what == 0 ? asker.amount : asker.first;
+    }
+
+    // ---- images
+
+    public int image(int k) {
+        if (!isWithin(k, 0, MOST_IMAGES - 1)) {
+            return NONE;
+        }
+        if (images[k] == null) {
+            images[k] = new Book();
+        }
+        images[k].copyFrom(book);
+        return book.scene.tide;
+    }
+
+    public int back(int k) {
+        if (!isWithin(k, 0, MOST_IMAGES - 1) || images[k] == null) {
+            return NONE;
+        }
+        book.copyFrom(images[k]);
+        return book.scene.tide;
+    }
+
+    // ---- tests of what is given
+
+    private static boolean isWithin(int n, int low, int high) {
+        return n >= low && n <= high;
+    }
+
+    private boolean isJoke(int joke) {
+        return joke >= 0 && joke < book.told.jokes;
+    }
+
+    private boolean isShip(int ship) {
+        return ship >= 0 && ship < book.told.ships;
+    }
+
+    private boolean isWaiting(int ship) {
+        return isShip(ship) && book.scene.passed[ship] == NONE;
+    }
+
+    private boolean isRuleOrNone(int rule) {
+        return rule == NONE || rule >= 0 && rule < ruleCount;
+    }
+
+    private Rule ruleAt(int rule) {
+        return rule >= 0 && rule < ruleCount ? rules[rule] : null;
+    }
+
+    // Questions about old tides leave another rule with the pilot, so each question sets its own.
+    private Asker asking() {
+        pilot.rule = ruleAt(book.force);
+        return asker;
+    }
+
+    /** The bytes fed, and the place up to which they are read. */
+    private static final class Tape {
+        final int[] bytes = new int[MOST_BYTES];
+        int length;
+        int place;
+        int start;
+        int stop;
+        int fault;
+
+        void put(int four) {
+            for (int shift = 24; shift >= 0 && length < MOST_BYTES; shift -= 8) {
+                bytes[length] = four >> shift & 255;
+                length++;
+            }
+        }
+
+        void rewind() {
+            place = 0;
+            fault = 0;
+        }
+
+        boolean failAt(int where, int kind) {
+            if (fault == 0) {
+                fault = 1 + 8 * where + kind;
+            }
+            return false;
+        }
+
+        // The byte behind the blanks, or NONE at the end.
+        int sign() {
+            while (place < length && bytes[place] == ' ') {
+                place++;
+            }
+            return place < length ? bytes[place] : NONE;
+        }
+
+        boolean takes(char sign) {
+            if (sign() != sign) {
+                return false;
+            }
+            place++;
+            return true;
+        }
+
+        // Finds the letters that come next and leaves them: a word that is none of those asked for stays to be read.
+        void findWord() {
+            sign();
+            start = place;
+            stop = place;
+            while (stop < length && bytes[stop] >= 'a' && bytes[stop] <= 'z') {
+                stop++;
+            }
+        }
+
+        boolean foundWord(String word) {
+            if (stop - start != word.length()) {
+                return false;
+            }
+            for (int i = 0; i < word.length(); i++) {
+                if (bytes[start + i] != word.charAt(i)) {
+                    return false;
+                }
+            }
+            return true;
+        }
+
+        boolean takesWord(String word) {
+            findWord();
+            if (!foundWord(word)) {
+                return false;
+            }
+            place = stop;
+            return true;
+        }
+
+        boolean isDigit() {
+            return place < length && bytes[place] >= '0' && bytes[place] <= '9';
+        }
+
+        // A number as told, or NONE behind a fault.
+        int number(int low, int high) {
+            sign();
+            start = place;
+            if (!isDigit()) {
+                failAt(place, 0);
+                return NONE;
+            }
+            int value = 0;
+            while (isDigit()) {
+                if (place - start < 5) {
+                    value = 10 * value + bytes[place] - '0';
+                }
+                place++;
+            }
+            if (place - start > 5 || value < low || value > high) {
+                failAt(start, 1);
+                return NONE;
+            }
+            return value;
+        }
+    }
+
+    /** Reads a bar from the tape. */
+    private static final class BarReader {
+        private static final int MOST_CLAUSES = 40;
+        private static final int BAR = 1;
+        private static final int JOKE = 2;
+        private static final int SHIP = 3;
+        private static final int KNOWS = 4;
+
+        final Told told = new Told();
+        private final Tape tape;
+
+        BarReader(Tape tape) {
+            this.tape = tape;
+        }
+
+        // The fault, or 0 if the bar stands in told.
+        int read() {
+            tape.rewind();
+            told.clear();
+            boolean more = true;
+            for (int clause = 0; more && clause <= MOST_CLAUSES; clause++) {
+                more = readClause(clause) && readSeparator();
+            }
+            return tape.fault;
+        }
+
+        private boolean readSeparator() {
+            if (tape.takes(';')) {
+                return true;
+            }
+            return tape.place < tape.length && tape.failAt(tape.place, 0);
+        }
+
+        private boolean readClause(int clause) {
+            tape.findWord();
+            int kind = kindFound();
+            if (kind == 0) {
+                return tape.failAt(tape.start, 0);
+            }
+            if (isTooMuch(kind, clause)) {
+                return tape.failAt(tape.start, 4);
+            }
+            tape.place = tape.stop;
+            switch (kind) {
+                case BAR:
+                    return readBar();
+                case JOKE:
+                    return readJoke();
+                case SHIP:
+                    return readShip();
+                default:
+                    return readKnows();
+            }
+        }
+
+        private int kindFound() {
+            if (tape.foundWord("bar")) {
+                return BAR;
+            }
+            if (tape.foundWord("joke")) {
+                return JOKE;
+            }
+            if (tape.foundWord("ship")) {
+                return SHIP;
+            }
+            return tape.foundWord("knows") ? KNOWS : 0;
+        }
+
+        private boolean isTooMuch(int kind, int clause) {
+            return (kind == BAR) != (clause == 0)
+                    || clause >= MOST_CLAUSES
+                    || kind == JOKE && told.jokes >= MOST_JOKES
+                    || kind == SHIP && told.ships >= MOST_SHIPS;
+        }
+
+        private boolean readBar() {
+            int fades = tape.number(1, 60);
+            int like = fades == NONE ? NONE : tape.number(1, 3);
+            told.fades = fades;
+            told.like = like;
+            return like != NONE;
+        }
+
+        private boolean readJoke() {
+            int set = tape.number(0, 9);
+            int turn = set == NONE ? NONE : tape.number(0, 9);
+            int kin = turn == NONE ? NONE : tape.number(0, 9);
+            if (kin == NONE) {
+                return false;
+            }
+            told.addJoke(set, turn, kin);
+            return true;
+        }
+
+        private boolean readShip() {
+            int cargo = tape.number(0, 99);
+            int keeps = cargo == NONE ? NONE : tape.number(0, 60);
+            if (keeps == NONE) {
+                return false;
+            }
+            told.addShip(cargo, keeps);
+            return true;
+        }
+
+        private boolean readKnows() {
+            int ship = tape.number(0, told.ships - 1);
+            int joke = ship == NONE ? NONE : tape.number(0, told.jokes - 1);
+            if (joke == NONE) {
+                return false;
+            }
+            told.knows[ship] |= 1 << joke;
+            return true;
+        }
+    }
+
+    /** Reads a rule from the tape and puts it into code, each value ahead of what joins it. */
+    private static final class RuleReader {
+        private static final int MOST_CLAUSES = 12;
+        private static final int MOST_DEEP = 10;
+        private static final int MOST_COUNTED = 60;
+
+        private final Tape tape;
+        private final int[] code = new int[MOST_BYTES];
+        private final int[] bounds = new int[2 * MOST_CLAUSES + 1];
+        private int length;
+        private int clauses;
+        private int counted;
+        private boolean timed;
+
+        RuleReader(Tape tape) {
+            this.tape = tape;
+        }
+
+        // The fault, or 0 if the rule can be made.
+        int read() {
+            tape.rewind();
+            length = 0;
+            clauses = 0;
+            counted = 0;
+            timed = false;
+            boolean more = true;
+            for (int clause = 0; more && clause <= MOST_CLAUSES; clause++) {
+                more = readClause() && readSeparator();
+            }
+            return tape.fault;
+        }
+
+        Rule made() {
+            return new Rule(Arrays.copyOf(code, length), Arrays.copyOf(bounds, 2 * clauses + 1), timed);
+        }
+
+        private boolean readSeparator() {
+            if (tape.takes(';')) {
+                return true;
+            }
+            return tape.place < tape.length && tape.failAt(tape.place, 0);
+        }
+
+        private boolean readClause() {
+            if (!tape.takesWord("tell")) {
+                return tape.failAt(tape.start, 0);
+            }
+            if (clauses >= MOST_CLAUSES) {
+                return tape.failAt(tape.start, 4);
+            }
+            bounds[2 * clauses] = length;
+            if (!readSum()) {
+                return false;
+            }
+            bounds[2 * clauses + 1] = length;
+            if (tape.takesWord("if") && !readTest(0)) {
+                return false;
+            }
+            clauses++;
+            bounds[2 * clauses] = length;
+            return true;
+        }
+
+        private boolean readTest(int depth) {
+            boolean right = readPart(depth);
+            while (right && tape.takesWord("or")) {
+                int jump = length;
+                put(Rule.OR, 0);
+                right = readPart(depth);
+                land(jump);
+            }
+            return right;
+        }
+
+        private boolean readPart(int depth) {
+            boolean right = readFact(depth);
+            while (right && tape.takesWord("and")) {
+                int jump = length;
+                put(Rule.AND, 0);
+                right = readFact(depth);
+                land(jump);
+            }
+            return right;
+        }
+
+        private boolean readFact(int depth) {
+            tape.findWord();
+            boolean not = tape.foundWord("not");
+            if (!not && tape.sign() != '[') {
+                return readCompared();
+            }
+            if (depth >= MOST_DEEP) {
+                return tape.failAt(tape.place, 2);
+            }
+            if (not) {
+                tape.place = tape.stop;
+                return readFact(depth + 1) && put(Rule.NOT, 0);
+            }
+            tape.place++;
+            return readTest(depth + 1) && (tape.takes(']') || tape.failAt(tape.place, 0));
+        }
+
+        private boolean readCompared() {
+            if (!readSum()) {
+                return false;
+            }
+            int sign = tape.sign();
+            int where = tape.place;
+            if (sign != '<' && sign != '=' && sign != '>') {
+                return tape.failAt(where, 0);
+            }
+            if (!counts(where)) {
+                return false;
+            }
+            tape.place++;
+            boolean orSame = sign != '=' && tape.place < tape.length && tape.bytes[tape.place] == '=';
+            if (orSame) {
+                tape.place++;
+            }
+            return readSum() && put(compareOf(sign, orSame), 0);
+        }
+
+        private static int compareOf(int sign, boolean orSame) {
+            if (sign == '=') {
+                return Rule.SAME;
+            }
+            if (sign == '<') {
+                return orSame ? Rule.AT_MOST : Rule.BELOW;
+            }
+            return orSame ? Rule.AT_LEAST : Rule.ABOVE;
+        }
+
+        private boolean readSum() {
+            boolean right = readTerm();
+            int sign = tape.sign();
+            while (right && (sign == '+' || sign == '-')) {
+                tape.place++;
+                right = readTerm() && put(sign == '+' ? Rule.ADD : Rule.TAKE, 0);
+                sign = tape.sign();
+            }
+            return right;
+        }
+
+        private boolean readTerm() {
+            boolean right = readValue();
+            int sign = tape.sign();
+            while (right && (sign == '*' || sign == '/' || sign == '%')) {
+                tape.place++;
+                int join = sign == '*' ? Rule.TIMES : sign == '/' ? Rule.SHARE : Rule.REST;
+                right = readValue() && put(join, 0);
+                sign = tape.sign();
+            }
+            return right;
+        }
+
+        private boolean readValue() {
+            tape.findWord();
+            int where = tape.start;
+            if (tape.isDigit()) {
+                int number = tape.number(0, 99999);
+                return number != NONE && counts(where) && put(Rule.NUMBER, number);
+            }
+            int word = wordFound();
+            if (word == NONE) {
+                return tape.failAt(where, 0);
+            }
+            tape.place = tape.stop;
+            timed = timed || word == Rule.TIDE || word == Rule.KEEPS || word == Rule.SINCE;
+            return counts(where) && put(Rule.WORD, word);
+        }
+
+        private int wordFound() {
+            for (int word = 0; word < Rule.WORDS; word++) {
+                if (tape.foundWord(Rule.wordAt(word))) {
+                    return word;
+                }
+            }
+            return NONE;
+        }
+
+        private boolean counts(int where) {
+            counted++;
+            return counted <= MOST_COUNTED || tape.failAt(where, 3);
+        }
+
+        // Every step stems from a byte of its own, so the code is never longer than the tape.
+        private boolean put(int step, int with) {
+            if (length < code.length) {
+                code[length] = step << Rule.STEP_SHIFT | with;
+                length++;
+            }
+            return true;
+        }
+
+        private void land(int jump) {
+            if (jump < code.length) {
+                code[jump] |= length;
+            }
+        }
+    }
+
+    /** A rule in code: of each clause its sum, then its test. */
+    private static final class Rule {
+        static final int STEP_SHIFT = 20;
+        static final int WITH_MASK = (1 << STEP_SHIFT) - 1;
+
+        static final int NUMBER = 0;
+        static final int WORD = 1;
+        static final int NOT = 2;
+        static final int AND = 3;
+        static final int OR = 4;
+        static final int ADD = 5;
+        static final int TAKE = 6;
+        static final int TIMES = 7;
+        static final int SHARE = 8;
+        static final int REST = 9;
+        static final int BELOW = 10;
+        static final int AT_MOST = 11;
+        static final int SAME = 12;
+        static final int AT_LEAST = 13;
+        static final int ABOVE = 14;
+
+        static final int SHIP = 0;
+        static final int JOKE = 1;
+        static final int CARGO = 2;
+        static final int KEEPS = 3;
+        static final int LIKE = 4;
+        static final int FRESH = 5;
+        static final int KNOWN = 6;
+        static final int WAITING = 7;
+        static final int SINCE = 8;
+        static final int PASSED = 9;
+        static final int TIDE = 10;
+        static final int WORDS = 11;
+
+        // Whether what it tells can change while nobody is heard and nothing fades.
+        final boolean timed;
+        private final int[] code;
+        private final int[] bounds;
+        // A compared sum, a sum, a term and a value lie on it at once, no more.
+        private final long[] stack = new long[8];
+
+        Rule(int[] code, int[] bounds, boolean timed) {
+            this.code = code;
+            this.bounds = bounds;
+            this.timed = timed;
+        }
+
+        static String wordAt(int word) {
+            switch (word) {
+                case SHIP:
+                    return "ship";
+                case JOKE:
+                    return "joke";
+                case CARGO:
+                    return "cargo";
+                case KEEPS:
+                    return "keeps";
+                case LIKE:
+                    return "like";
+                case FRESH:
+                    return "fresh";
+                case KNOWN:
+                    return "known";
+                case WAITING:
+                    return "waiting";
+                case SINCE:
+                    return "since";
+                case PASSED:
+                    return "passed";
+                default:
+                    return "tide";
+            }
+        }
+
+        // What the first clause that holds says of the ship and the joke that the pilot looks at.
+        long worth(Pilot pilot) {
+            for (int at = 0; at + 2 < bounds.length; at += 2) {
+                int test = bounds[at + 1];
+                int stop = bounds[at + 2];
+                if (test == stop || reckon(test, stop, pilot) != 0) {
+                    return reckon(bounds[at], test, pilot);
+                }
+            }
+            return 0;
+        }
+
+        private long reckon(int from, int stop, Pilot pilot) {
+            int top = -1;
+            for (int at = from; at < stop; at++) {
+                int step = code[at] >> STEP_SHIFT;
+                int with = code[at] & WITH_MASK;
+                switch (step) {
+                    case NUMBER:
+                        top++;
+                        stack[top] = with;
+                        break;
+                    case WORD:
+                        top++;
+                        stack[top] = pilot.valueOf(with);
+                        break;
+                    case NOT:
+                        stack[top] = 1 - stack[top];
+                        break;
+                    case AND:
+                        if (stack[top] == 0) {
+                            at = with - 1;
+                        } else {
+                            top--;
+                        }
+                        break;
+                    case OR:
+                        if (stack[top] != 0) {
+                            at = with - 1;
+                        } else {
+                            top--;
+                        }
+                        break;
+                    default:
+                        top--;
+                        stack[top] = joined(step, stack[top], stack[top + 1]);
+                        break;
+                }
+            }
+            return stack[0];
+        }
+
+        private static long joined(int step, long left, long right) {
+            switch (step) {
+                case ADD:
+                    return left + right;
+                case TAKE:
+                    return left - right;
+                case TIMES:
+                    return left * right;
+                case SHARE:
+                    return right == 0 ? 0 : left / right;
+                case REST:
+                    return right == 0 ? 0 : left % right;
+                case BELOW:
+                    return left < right ? 1 : 0;
+                case AT_MOST:
+                    return left <= right ? 1 : 0;
+                case SAME:
+                    return left == right ? 1 : 0;
+                case AT_LEAST:
+                    return left >= right ? 1 : 0;
+                default:
+                    return left > right ? 1 : 0;
+            }
+        }
+    }
+
+    /** A bar as its text told it. */
+    private static final class Told {
+        boolean there;
+        int fades;
+        int like;
+        int jokes;
+        int ships;
+        final int[] part = new int[3 * MOST_JOKES];
+        final int[] cargo = new int[MOST_SHIPS];
+        final int[] keeps = new int[MOST_SHIPS];
+        final int[] knows = new int[MOST_SHIPS];
+        // At 8 * k + j: the jokes that have k parts or more alike to those of j, as bits.
+        private final int[] near = new int[4 * MOST_JOKES];
+
+        void clear() {
+            there = false;
+            fades = 0;
+            like = 0;
+            jokes = 0;
+            ships = 0;
+            Arrays.fill(knows, 0);
+            Arrays.fill(near, 0);
+        }
+
+        void copyFrom(Told other) {
+            there = other.there;
+            fades = other.fades;
+            like = other.like;
+            jokes = other.jokes;
+            ships = other.ships;
+            System.arraycopy(other.part, 0, part, 0, part.length);
+            System.arraycopy(other.cargo, 0, cargo, 0, MOST_SHIPS);
+            System.arraycopy(other.keeps, 0, keeps, 0, MOST_SHIPS);
+            System.arraycopy(other.knows, 0, knows, 0, MOST_SHIPS);
+            System.arraycopy(other.near, 0, near, 0, near.length);
+        }
+
+        void addJoke(int set, int turn, int kin) {
+            int added = jokes;
+            part[3 * added] = set;
+            part[3 * added + 1] = turn;
+            part[3 * added + 2] = kin;
+            jokes++;
+            for (int joke = 0; joke < jokes; joke++) {
+                int alike = partsAlike(joke, added);
+                for (int k = 1; k <= alike; k++) {
+                    near[MOST_JOKES * k + joke] |= 1 << added;
+                    near[MOST_JOKES * k + added] |= 1 << joke;
+                }
+            }
+        }
+
+        void addShip(int itsCargo, int itsKeeps) {
+            cargo[ships] = itsCargo;
+            keeps[ships] = itsKeeps;
+            ships++;
+        }
+
+        int partsAlike(int one, int other) {
+            return countAlike(one, part[3 * other], part[3 * other + 1], part[3 * other + 2]);
+        }
+
+        private int countAlike(int joke, int set, int turn, int kin) {
+            return (part[3 * joke] == set ? 1 : 0)
+                    + (part[3 * joke + 1] == turn ? 1 : 0)
+                    + (part[3 * joke + 2] == kin ? 1 : 0);
+        }
+
+        boolean isNew(int joke, int memory) {
+            return (near[MOST_JOKES * like + joke] & memory) == 0;
+        }
+
+        int newOnes(int memory) {
+            int bits = 0;
+            for (int joke = 0; joke < jokes; joke++) {
+                if (isNew(joke, memory)) {
+                    bits |= 1 << joke;
+                }
+            }
+            return bits;
+        }
+
+        int mostAlike(int joke, int memory) {
+            for (int k = 3; k > 0; k--) {
+                if ((near[MOST_JOKES * k + joke] & memory) != 0) {
+                    return k;
+                }
+            }
+            return 0;
+        }
+
+        int leastUnlike() {
+            for (int number = 0; number < 1000; number++) {
+                if (isUnlikeAll(number / 100, number / 10 % 10, number % 10)) {
+                    return number;
+                }
+            }
+            return -2;
+        }
+
+        private boolean isUnlikeAll(int set, int turn, int kin) {
+            for (int joke = 0; joke < jokes; joke++) {
+                if (countAlike(joke, set, turn, kin) >= like) {
+                    return false;
+                }
+            }
+            return true;
+        }
+
+        int remembered(Scene scene) {
+            int bits = 0;
+            for (int joke = 0; joke < jokes; joke++) {
+                if (scene.tide - scene.heard[joke] < fades) {
+                    bits |= 1 << joke;
+                }
+            }
+            return bits;
+        }
+
+        int waiting(Scene scene) {
+            int bits = 0;
+            for (int ship = 0; ship < ships; ship++) {
+                if (scene.passed[ship] == NONE) {
+                    bits |= 1 << ship;
+                }
+            }
+            return bits;
+        }
+
+        int passed(Scene scene) {
+            return ships - Integer.bitCount(waiting(scene));
+        }
+
+        int earned(Scene scene) {
+            int sum = 0;
+            for (int ship = 0; ship < ships; ship++) {
+                sum += earnedBy(ship, scene);
+            }
+            return sum;
+        }
+
+        int earnedBy(int ship, Scene scene) {
+            int tide = scene.passed[ship];
+            return tide != NONE && tide <= keeps[ship] ? cargo[ship] : 0;
+        }
+
+        int partOf(int purse, int ship, Scene scene) {
+            int all = 0;
+            for (int other = 0; other < ships; other++) {
+                all += weight(other, scene);
+            }
+            if (all == 0) {
+                return 0;
+            }
+            int left = purse;
+            int ahead = 0;
+            int lost = purse * weight(ship, scene) % all;
+            for (int other = 0; other < ships; other++) {
+                int share = purse * weight(other, scene);
+                left -= share / all;
+                if (share % all > lost || share % all == lost && other < ship) {
+                    ahead++;
+                }
+            }
+            return purse * weight(ship, scene) / all + (ahead < left ? 1 : 0);
+        }
+
+        private int weight(int ship, Scene scene) {
+            return scene.passed[ship] == NONE ? 0 : cargo[ship];
+        }
+    }
+
+    /** All that acts change. */
+    private static final class Scene {
+        static final int SIZE = 1 + MOST_JOKES + 2 * MOST_SHIPS;
+
+        int tide;
+        final int[] heard = new int[MOST_JOKES];
+        final int[] knows = new int[MOST_SHIPS];
+        final int[] passed = new int[MOST_SHIPS];
+
+        Scene() {
+            Arrays.fill(heard, NEVER);
+            Arrays.fill(passed, NONE);
+        }
+
+        void begin(Told told) {
+            tide = 0;
+            Arrays.fill(heard, NEVER);
+            Arrays.fill(passed, NONE);
+            System.arraycopy(told.knows, 0, knows, 0, MOST_SHIPS);
+        }
+
+        void copyFrom(Scene other) {
+            tide = other.tide;
+            System.arraycopy(other.heard, 0, heard, 0, MOST_JOKES);
+            System.arraycopy(other.knows, 0, knows, 0, MOST_SHIPS);
+            System.arraycopy(other.passed, 0, passed, 0, MOST_SHIPS);
+        }
+
+        void store(int[] rows, int at) {
+            rows[at] = tide;
+            System.arraycopy(heard, 0, rows, at + 1, MOST_JOKES);
+            System.arraycopy(knows, 0, rows, at + 1 + MOST_JOKES, MOST_SHIPS);
+            System.arraycopy(passed, 0, rows, at + 1 + MOST_JOKES + MOST_SHIPS, MOST_SHIPS);
+        }
+
+        void restore(int[] rows, int at) {
+            tide = rows[at];
+            System.arraycopy(rows, at + 1, heard, 0, MOST_JOKES);
+            System.arraycopy(rows, at + 1 + MOST_JOKES, knows, 0, MOST_SHIPS);
+            System.arraycopy(rows, at + 1 + MOST_JOKES + MOST_SHIPS, passed, 0, MOST_SHIPS);
+        }
+
+        int since(int joke) {
+            return Math.min(99, tide - heard[joke]);
+        }
+
+        boolean isKnown(int ship, int joke) {
+            return (knows[ship] >> joke & 1) != 0;
+        }
+
+        int share(int one, int other) {
+            int both = knows[one] | knows[other];
+            knows[one] = both;
+            knows[other] = both;
+            return both;
+        }
+    }
+
+    /** All that an image holds. */
+    private static final class Book {
+        final Told told = new Told();
+        final Scene scene = new Scene();
+        final int[] noteTide = new int[MOST_NOTES];
+        final int[] noteShip = new int[MOST_NOTES];
+        final int[] noteJoke = new int[MOST_NOTES];
+        int notes;
+        int acts;
+        int x;
+        int force = NONE;
+        // A ring of the scenes ahead of the last acts, the next one's place in it at head.
+        private final int[] past = new int[MOST_ACTS * Scene.SIZE];
+        private int head;
+
+        void open(Told read) {
+            told.copyFrom(read);
+            told.there = true;
+            scene.begin(told);
+            notes = 0;
+            acts = 0;
+        }
+
+        void keepAct() {
+            scene.store(past, head * Scene.SIZE);
+            head = (head + 1) % MOST_ACTS;
+            acts = Math.min(MOST_ACTS, acts + 1);
+        }
+
+        boolean undoAct() {
+            if (acts == 0) {
+                return false;
+            }
+            acts--;
+            head = (head + MOST_ACTS - 1) % MOST_ACTS;
+            scene.restore(past, head * Scene.SIZE);
+            return true;
+        }
+
+        void addNote(int tide, int ship, int joke) {
+            noteTide[notes] = tide;
+            noteShip[notes] = ship;
+            noteJoke[notes] = joke;
+            notes++;
+        }
+
+        void copyFrom(Book other) {
+            told.copyFrom(other.told);
+            scene.copyFrom(other.scene);
+            System.arraycopy(other.noteTide, 0, noteTide, 0, MOST_NOTES);
+            System.arraycopy(other.noteShip, 0, noteShip, 0, MOST_NOTES);
+            System.arraycopy(other.noteJoke, 0, noteJoke, 0, MOST_NOTES);
+            System.arraycopy(other.past, 0, past, 0, past.length);
+            notes = other.notes;
+            acts = other.acts;
+            x = other.x;
+            force = other.force;
+            head = other.head;
+        }
+    }
+
+    /** Lets ships tell, in the scene that he has met, by a rule or by none. */
+    private static final class Pilot {
+        Rule rule;
+        // What each ship told on the last tide.
+        final int[] said = new int[MOST_SHIPS];
+        private final Told told;
+        private Scene scene;
+        private int memory;
+        private int waiting;
+        private boolean quiet;
+        private int ship;
+        private int joke;
+
+        Pilot(Told told) {
+            this.told = told;
+            scene = new Scene();
+        }
+
+        // Must come ahead of turns and hears: what he remembers and who waits are kept beside the scene.
+        void meet(Scene met) {
+            scene = met;
+            memory = told.remembered(met);
+            waiting = told.waiting(met);
+            quiet = true;
+        }
+
+        // Who passes, as bits.
+        int oneTide(Scene met) {
+            meet(met);
+            int passes = turns(0, told.ships);
+            met.tide++;
+            return passes;
+        }
+
+        int turns(int from, int stop) {
+            int passes = 0;
+            for (int who = from; who < stop; who++) {
+                said[who] = (waiting >> who & 1) == 0 ? NONE : pick(who);
+                if (said[who] != NONE && hears(who, said[who])) {
+                    passes |= 1 << who;
+                }
+            }
+            return passes;
+        }
+
+        // Whether the ship passes.
+        boolean hears(int who, int what) {
+            boolean passes = told.isNew(what, memory);
+            if (passes) {
+                scene.passed[who] = scene.tide;
+                waiting &= ~(1 << who);
+            }
+            scene.heard[what] = scene.tide;
+            memory |= 1 << what;
+            quiet = false;
+            return passes;
+        }
+
+        private int pick(int who) {
+            return rule == null ? leastNew(who) : pickByRule(who);
+        }
+
+        int leastNew(int who) {
+            for (int what = 0; what < told.jokes; what++) {
+                if (scene.isKnown(who, what) && told.isNew(what, memory)) {
+                    return what;
+                }
+            }
+            return NONE;
+        }
+
+        private int pickByRule(int who) {
+            int best = NONE;
+            long most = 0;
+            ship = who;
+            for (joke = 0; joke < told.jokes; joke++) {
+                if (scene.isKnown(who, joke)) {
+                    long worth = rule.worth(this);
+                    if (worth > most) {
+                        most = worth;
+                        best = joke;
+                    }
+                }
+            }
+            return best;
+        }
+
+        int valueOf(int word) {
+            switch (word) {
+                case Rule.SHIP:
+                    return ship;
+                case Rule.JOKE:
+                    return joke;
+                case Rule.CARGO:
+                    return told.cargo[ship];
+                case Rule.KEEPS:
+                    return told.keeps[ship] - scene.tide;
+                case Rule.LIKE:
+                    return told.mostAlike(joke, memory);
+                case Rule.FRESH:
+                    return told.isNew(joke, memory) ? 1 : 0;
+                case Rule.KNOWN:
+                    return howManyKnow();
+                case Rule.WAITING:
+                    return Integer.bitCount(waiting);
+                case Rule.SINCE:
+                    return scene.since(joke);
+                case Rule.PASSED:
+                    return told.ships - Integer.bitCount(waiting);
+                default:
+                    return scene.tide;
+            }
+        }
+
+        private int howManyKnow() {
+            int many = 0;
+            for (int who = 0; who < told.ships; who++) {
+                many += waiting >> who & scene.knows[who] >> joke & 1;
+            }
+            return many;
+        }
+
+        void goOn(Scene met, int tides) {
+            int last = met.tide + tides;
+            for (int i = 0; i < tides && met.tide < last; i++) {
+                oneTide(met);
+                if (waiting == 0) {
+                    met.tide = last;
+                } else if (quiet && (rule == null || !rule.timed)) {
+                    met.tide = Math.min(last, nextFading());
+                }
+            }
+        }
+
+        // A tide on which nobody tells comes again just so until a joke fades.
+        private int nextFading() {
+            int next = Integer.MAX_VALUE;
+            for (int what = 0; what < told.jokes; what++) {
+                if ((memory >> what & 1) != 0) {
+                    next = Math.min(next, scene.heard[what] + told.fades);
+                }
+            }
+            return next;
+        }
+    }
+
+    /** Answers questions on scenes of its own; what it finds stands in amount, first and second. */
+    private static final class Asker {
+        private static final int MOST_LEVELS = 5;
+
+        int amount;
+        int first;
+        int second;
+        final int[] choice = new int[4];
+        private final Book book;
+        private final Told told;
+        private final Pilot pilot;
+        private final Scene work = new Scene();
+        private final Scene[] levels = new Scene[MOST_LEVELS];
+        // Of none and of each rule: whether all notes are so by it, and what each ship tells by it.
+        private final boolean[] isSo = new boolean[MOST_RULES + 1];
+        private final int[] tells = new int[(MOST_RULES + 1) * MOST_SHIPS];
+        private int x;
+
+        Asker(Book book, Pilot pilot) {
+            this.book = book;
+            this.told = book.told;
+            this.pilot = pilot;
+            for (int i = 0; i < MOST_LEVELS; i++) {
+                levels[i] = new Scene();
+            }
+        }
+
+        Scene later(int tides) {
+            work.copyFrom(book.scene);
+            pilot.goOn(work, tides);
+            return work;
+        }
+
+        // The tide to amount, the joke to first.
+        boolean findPassing(int ship) {
+            work.copyFrom(book.scene);
+            for (int i = 0; i < FAR_TIDES; i++) {
+                amount = work.tide;
+                if ((pilot.oneTide(work) >> ship & 1) != 0) {
+                    first = pilot.said[ship];
+                    return true;
+                }
+            }
+            return false;
+        }
+
+        int placeOf(int ship) {
+            Scene then = later(FAR_TIDES);
+            int place = 0;
+            for (int other = 0; other < told.ships; other++) {
+                int its = passingOf(then, other);
+                int mine = passingOf(then, ship);
+                if (its < mine || its == mine && other < ship) {
+                    place++;
+                }
+            }
+            return place;
+        }
+
+        private static int passingOf(Scene then, int ship) {
+            return then.passed[ship] == NONE ? Integer.MAX_VALUE : then.passed[ship];
+        }
+
+        // After how many tides it passes, or NONE; the row to choice.
+        int findRow(int ship, int tides) {
+            for (int last = 0; last < tides; last++) {
+                levels[0].copyFrom(book.scene);
+                if (rowFound(ship, 0, last)) {
+                    return last;
+                }
+            }
+            return NONE;
+        }
+
+        // Shorter rows were all tried ahead of this one, so the ship still waits on each tide up to the last.
+        private boolean rowFound(int ship, int at, int last) {
+            Scene scene = levels[at];
+            pilot.meet(scene);
+            pilot.turns(0, ship);
+            if (at == last) {
+                choice[at] = pilot.leastNew(ship);
+                return choice[at] != NONE;
+            }
+            Scene next = levels[at + 1];
+            for (int joke = NONE; joke < told.jokes; joke++) {
+                if (joke != NONE && !scene.isKnown(ship, joke)) {
+                    continue;
+                }
+                next.copyFrom(scene);
+                pilot.meet(next);
+                if (joke != NONE) {
+                    pilot.hears(ship, joke);
+                }
+                pilot.turns(ship + 1, told.ships);
+                next.tide++;
+                choice[at] = joke;
+                if (rowFound(ship, at + 1, last)) {
+                    return true;
+                }
+            }
+            return false;
+        }
+
+        // The joke to first, what is earned to amount.
+        void findForgotten(int tides) {
+            int memory = told.remembered(book.scene);
+            first = NONE;
+            amount = told.earned(later(tides));
+            for (int joke = 0; joke < told.jokes; joke++) {
+                if ((memory >> joke & 1) == 0) {
+                    continue;
+                }
+                work.copyFrom(book.scene);
+                work.heard[joke] = NEVER;
+                pilot.goOn(work, tides);
+                int earned = told.earned(work);
+                if (earned > amount) {
+                    amount = earned;
+                    first = joke;
+                }
+            }
+        }
+
+        // The two ships to first and second, what is earned to amount.
+        void findTraders(int tides) {
+            int waiting = told.waiting(book.scene);
+            first = NONE;
+            second = NONE;
+            amount = told.earned(later(tides));
+            for (int one = 0; one < told.ships; one++) {
+                for (int other = one + 1; other < told.ships; other++) {
+                    if ((waiting >> one & waiting >> other & 1) != 0) {
+                        tryTrade(one, other, tides);
+                    }
+                }
+            }
+        }
+
+        private void tryTrade(int one, int other, int tides) {
+            work.copyFrom(book.scene);
+            work.share(one, other);
+            pilot.goOn(work, tides);
+            int earned = told.earned(work);
+            if (earned > amount) {
+                amount = earned;
+                first = one;
+                second = other;
+            }
+        }
+
+        // The set, or NONE.
+        int findLessons(int tides) {
+            for (int size = 0; size <= told.jokes; size++) {
+                for (int set = 0; set < 1 << told.jokes; set++) {
+                    if (Integer.bitCount(set) == size && allPassBy(set, tides)) {
+                        return set;
+                    }
+                }
+            }
+            return NONE;
+        }
+
+        private boolean allPassBy(int set, int tides) {
+            work.copyFrom(book.scene);
+            for (int ship = 0; ship < told.ships; ship++) {
+                if (work.passed[ship] == NONE) {
+                    work.knows[ship] |= set;
+                }
+            }
+            pilot.goOn(work, tides);
+            return told.waiting(work) == 0;
+        }
+
+        // How many sets to amount, the least to first, what is in all to second.
+        void findOldSets(Rule rule, int tides, int many) {
+            pilot.rule = rule;
+            amount = 0;
+            first = NONE;
+            second = -1;
+            for (int set = 0; set < 1 << told.jokes; set++) {
+                work.begin(told);
+                for (int joke = 0; joke < told.jokes; joke++) {
+                    work.heard[joke] = (set >> joke & 1) != 0 ? -1 : NEVER;
+                }
+                pilot.goOn(work, tides);
+                if (told.passed(work) == many) {
+                    first = amount == 0 ? set : first;
+                    second &= set;
+                    amount++;
+                }
+            }
+        }
+
+        // The worth to amount, what the first one tells first to first.
+        void playGame(int one, int other, int turns) {
+            levels[0].copyFrom(book.scene);
+            amount = gameWorth(one, other, 0, turns);
+            first = choice[0];
+        }
+
+        // What the one to move can win over the other one in the turns left; its best joke to choice.
+        private int gameWorth(int mover, int other, int at, int turns) {
+            if (at >= turns || at >= MOST_LEVELS - 1) {
+                return 0;
+            }
+            Scene scene = levels[at];
+            Scene next = levels[at + 1];
+            int most = Integer.MIN_VALUE;
+            for (int joke = NONE; joke < told.jokes; joke++) {
+                if (joke != NONE && (scene.passed[mover] != NONE || !scene.isKnown(mover, joke))) {
+                    continue;
+                }
+                next.copyFrom(scene);
+                int won = 0;
+                if (joke != NONE) {
+                    pilot.meet(next);
+                    won = pilot.hears(mover, joke) ? told.earnedBy(mover, next) : 0;
+                }
+                next.tide++;
+                won -= gameWorth(other, mover, at + 1, turns);
+                if (won > most) {
+                    most = won;
+                    choice[at] = joke;
+                }
+            }
+            return most;
+        }
+
+        // How many of none and the rules are so to amount, the first to first.
+        void tryRules(Rule[] rules, int ruleCount, int tide) {
+            amount = 0;
+            first = NONE;
+            for (int rule = NONE; rule < ruleCount; rule++) {
+                pilot.rule = rule == NONE ? null : rules[rule];
+                boolean so = allNotesHold(tide, (rule + 1) * MOST_SHIPS);
+                isSo[rule + 1] = so;
+                if (so) {
+                    first = amount == 0 ? rule : first;
+                    amount++;
+                }
+            }
+        }
+
+        // What the ships tell on the tide that is asked for goes to tells.
+        private boolean allNotesHold(int tide, int at) {
+            int last = tide;
+            for (int i = 0; i < book.notes; i++) {
+                last = Math.max(last, book.noteTide[i]);
+            }
+            work.begin(told);
+            for (int now = 0; now <= last; now++) {
+                pilot.oneTide(work);
+                if (!notesHold(now)) {
+                    return false;
+                }
+                if (now == tide) {
+                    System.arraycopy(pilot.said, 0, tells, at, MOST_SHIPS);
+                }
+            }
+            return true;
+        }
+
+        private boolean notesHold(int now) {
+            for (int i = 0; i < book.notes; i++) {
+                if (book.noteTide[i] == now && book.noteJoke[i] != pilot.said[book.noteShip[i]]) {
+                    return false;
+                }
+            }
+            return true;
+        }
+
+        // The ship to first, the most alike to amount; tryRules must come ahead.
+        void findParting(int ruleCount) {
+            first = NONE;
+            amount = Integer.MAX_VALUE;
+            for (int ship = 0; ship < told.ships; ship++) {
+                int most = 0;
+                for (int rule = 0; rule <= ruleCount; rule++) {
+                    most = Math.max(most, howManyTellAs(rule, ruleCount, ship));
+                }
+                if (most < amount) {
+                    amount = most;
+                    first = ship;
+                }
+            }
+        }
+
+        private int howManyTellAs(int rule, int ruleCount, int ship) {
+            int many = 0;
+            for (int other = 0; isSo[rule] && other <= ruleCount; other++) {
+                if (isSo[other] && tells[other * MOST_SHIPS + ship] == tells[rule * MOST_SHIPS + ship]) {
+                    many++;
+                }
+            }
+            return many;
+        }
+
+        // What is earned to amount, how many have passed to first.
+        void drawYears(int times, int tides, int percent) {
+            x = book.x;
+            amount = 0;
+            first = 0;
+            for (int i = 0; i < times; i++) {
+                work.copyFrom(book.scene);
+                for (int j = 0; j < tides; j++) {
+                    hearParrot(percent);
+                    pilot.oneTide(work);
+                }
+                amount += told.earned(work) - told.earned(book.scene);
+                first += told.passed(work);
+            }
+        }
+
+        private void hearParrot(int percent) {
+            if (draw() % 100 < percent && told.jokes > 0) {
+                work.heard[draw() % told.jokes] = work.tide;
+            }
+        }
+
+        private int draw() {
+            x = x * 1103515245 + 12345 & Integer.MAX_VALUE;
+            return x / 65536;
+        }
+    }
+}
