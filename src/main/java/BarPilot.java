@@ -459,14 +459,26 @@ public final class BarPilot {
         return asker;
     }
 
-    /** The bytes fed, and the place up to which they are read. */
+    /** The bytes fed, and of these the token that is read next. */
     private static final class Tape {
+        static final int END = 0;
+        static final int NUMBER = 1;
+        static final int WORD = 2;
+        static final int SIGN = 3;
+        // Added to the byte of a < or > that a = follows.
+        static final int OR_SAME = 256;
+
         final int[] bytes = new int[MOST_BYTES];
         int length;
-        int place;
-        int start;
-        int stop;
         int fault;
+        int kind;
+        int start;
+        // The letters of a word as bytes of one number, or 0: no word that can stand has more than eight.
+        long word;
+        // The byte of a sign, or NONE.
+        int sign;
+        private int value;
+        private int stop;
 
         void put(int four) {
             for (int shift = 24; shift >= 0 && length < MOST_BYTES; shift -= 8) {
@@ -476,98 +488,101 @@ public final class BarPilot {
         }
 
         void rewind() {
-            place = 0;
+            stop = 0;
             fault = 0;
+            next();
         }
 
-        boolean failAt(int where, int kind) {
+        boolean failAt(int where, int what) {
             if (fault == 0) {
-                fault = 1 + 8 * where + kind;
+                fault = 1 + 8 * where + what;
             }
             return false;
         }
 
-        // The byte behind the blanks, or NONE at the end.
-        int sign() {
-            while (place < length && bytes[place] == ' ') {
-                place++;
+        void next() {
+            while (stop < length && bytes[stop] == ' ') {
+                stop++;
             }
-            return place < length ? bytes[place] : NONE;
+            start = stop;
+            word = 0;
+            sign = NONE;
+            if (stop >= length) {
+                kind = END;
+            } else if (bytes[stop] >= '0' && bytes[stop] <= '9') {
+                kind = NUMBER;
+                readDigits();
+            } else if (bytes[stop] >= 'a' && bytes[stop] <= 'z') {
+                kind = WORD;
+                readLetters();
+            } else {
+                kind = SIGN;
+                readSign();
+            }
         }
 
-        boolean takes(char sign) {
-            if (sign() != sign) {
-                return false;
-            }
-            place++;
-            return true;
-        }
-
-        // Finds the letters that come next and leaves them: a word that is none of those asked for stays to be read.
-        void findWord() {
-            sign();
-            start = place;
-            stop = place;
-            while (stop < length && bytes[stop] >= 'a' && bytes[stop] <= 'z') {
+        private void readDigits() {
+            value = 0;
+            while (stop < length && bytes[stop] >= '0' && bytes[stop] <= '9') {
+                if (stop - start < 5) {
+                    value = 10 * value + bytes[stop] - '0';
+                }
                 stop++;
             }
         }
 
-        boolean foundWord(String word) {
-            if (stop - start != word.length()) {
-                return false;
+        private void readLetters() {
+            while (stop < length && bytes[stop] >= 'a' && bytes[stop] <= 'z') {
+                word = word << 8 | bytes[stop];
+                stop++;
             }
-            for (int i = 0; i < word.length(); i++) {
-                if (bytes[start + i] != word.charAt(i)) {
-                    return false;
-                }
+            if (stop - start > 8) {
+                word = 0;
             }
-            return true;
         }
 
-        boolean takesWord(String word) {
-            findWord();
-            if (!foundWord(word)) {
-                return false;
+        private void readSign() {
+            sign = bytes[stop];
+            stop++;
+            if ((sign == '<' || sign == '>') && stop < length && bytes[stop] == '=') {
+                sign += OR_SAME;
+                stop++;
             }
-            place = stop;
-            return true;
-        }
-
-        boolean isDigit() {
-            return place < length && bytes[place] >= '0' && bytes[place] <= '9';
         }
 
         // A number as told, or NONE behind a fault.
-        int number(int low, int high) {
-            sign();
-            start = place;
-            if (!isDigit()) {
-                failAt(place, 0);
+        int takeNumber(int low, int high) {
+            if (kind != NUMBER) {
+                failAt(start, 0);
                 return NONE;
             }
-            int value = 0;
-            while (isDigit()) {
-                if (place - start < 5) {
-                    value = 10 * value + bytes[place] - '0';
-                }
-                place++;
-            }
-            if (place - start > 5 || value < low || value > high) {
+            if (stop - start > 5 || value < low || value > high) {
                 failAt(start, 1);
                 return NONE;
             }
-            return value;
+            int number = value;
+            next();
+            return number;
+        }
+
+        // Whether another clause must follow; it is a fault if neither that nor the end does.
+        boolean takesSeparator() {
+            if (sign == ';') {
+                next();
+                return true;
+            }
+            return kind != END && failAt(start, 0);
         }
     }
 
     /** Reads a bar from the tape. */
     private static final class BarReader {
         private static final int MOST_CLAUSES = 40;
-        private static final int BAR = 1;
-        private static final int JOKE = 2;
-        private static final int SHIP = 3;
-        private static final int KNOWS = 4;
+        // The letters b a r, j o k e, s h i p, k n o w s.
+        private static final long BAR = 0x626172L;
+        private static final long JOKE = 0x6a6f6b65L;
+        private static final long SHIP = 0x73686970L;
+        private static final long KNOWS = 0x6b6e6f7773L;
 
         final Told told = new Told();
         private final Tape tape;
@@ -582,72 +597,46 @@ public final class BarPilot {
             told.clear();
             boolean more = true;
             for (int clause = 0; more && clause <= MOST_CLAUSES; clause++) {
-                more = readClause(clause) && readSeparator();
+                more = readClause(clause) && tape.takesSeparator();
             }
             return tape.fault;
         }
 
-        private boolean readSeparator() {
-            if (tape.takes(';')) {
-                return true;
-            }
-            return tape.place < tape.length && tape.failAt(tape.place, 0);
-        }
-
         private boolean readClause(int clause) {
-            tape.findWord();
-            int kind = kindFound();
-            if (kind == 0) {
+            long word = tape.word;
+            if (word != BAR && word != JOKE && word != SHIP && word != KNOWS) {
                 return tape.failAt(tape.start, 0);
             }
-            if (isTooMuch(kind, clause)) {
+            if (isTooMuch(word, clause)) {
                 return tape.failAt(tape.start, 4);
             }
-            tape.place = tape.stop;
-            switch (kind) {
-                case BAR:
-                    return readBar();
-                case JOKE:
-                    return readJoke();
-                case SHIP:
-                    return readShip();
-                default:
-                    return readKnows();
+            tape.next();
+            if (word == BAR) {
+                return readBar();
             }
+            if (word == JOKE) {
+                return readJoke();
+            }
+            return word == SHIP ? readShip() : readKnows();
         }
 
-        private int kindFound() {
-            if (tape.foundWord("bar")) {
-                return BAR;
-            }
-            if (tape.foundWord("joke")) {
-                return JOKE;
-            }
-            if (tape.foundWord("ship")) {
-                return SHIP;
-            }
-            return tape.foundWord("knows") ? KNOWS : 0;
-        }
-
-        private boolean isTooMuch(int kind, int clause) {
-            return (kind == BAR) != (clause == 0)
+        private boolean isTooMuch(long word, int clause) {
+            return (word == BAR) != (clause == 0)
                     || clause >= MOST_CLAUSES
-                    || kind == JOKE && told.jokes >= MOST_JOKES
-                    || kind == SHIP && told.ships >= MOST_SHIPS;
+                    || word == JOKE && told.jokes >= MOST_JOKES
+                    || word == SHIP && told.ships >= MOST_SHIPS;
         }
 
         private boolean readBar() {
-            int fades = tape.number(1, 60);
-            int like = fades == NONE ? NONE : tape.number(1, 3);
-            told.fades = fades;
-            told.like = like;
-            return like != NONE;
+            told.fades = tape.takeNumber(1, 60);
+            told.like = told.fades == NONE ? NONE : tape.takeNumber(1, 3);
+            return told.like != NONE;
         }
 
         private boolean readJoke() {
-            int set = tape.number(0, 9);
-            int turn = set == NONE ? NONE : tape.number(0, 9);
-            int kin = turn == NONE ? NONE : tape.number(0, 9);
+            int set = tape.takeNumber(0, 9);
+            int turn = set == NONE ? NONE : tape.takeNumber(0, 9);
+            int kin = turn == NONE ? NONE : tape.takeNumber(0, 9);
             if (kin == NONE) {
                 return false;
             }
@@ -656,8 +645,8 @@ public final class BarPilot {
         }
 
         private boolean readShip() {
-            int cargo = tape.number(0, 99);
-            int keeps = cargo == NONE ? NONE : tape.number(0, 60);
+            int cargo = tape.takeNumber(0, 99);
+            int keeps = cargo == NONE ? NONE : tape.takeNumber(0, 60);
             if (keeps == NONE) {
                 return false;
             }
@@ -666,8 +655,8 @@ public final class BarPilot {
         }
 
         private boolean readKnows() {
-            int ship = tape.number(0, told.ships - 1);
-            int joke = ship == NONE ? NONE : tape.number(0, told.jokes - 1);
+            int ship = tape.takeNumber(0, told.ships - 1);
+            int joke = ship == NONE ? NONE : tape.takeNumber(0, told.jokes - 1);
             if (joke == NONE) {
                 return false;
             }
@@ -681,14 +670,24 @@ public final class BarPilot {
         private static final int MOST_CLAUSES = 12;
         private static final int MOST_DEEP = 10;
         private static final int MOST_COUNTED = 60;
+        // The letters t e l l, i f, o r, a n d, n o t.
+        private static final long TELL = 0x74656c6cL;
+        private static final long IF = 0x6966L;
+        private static final long OR = 0x6f72L;
+        private static final long AND = 0x616e64L;
+        private static final long NOT = 0x6e6f74L;
+        // Those of ship, joke, cargo, keeps, like, fresh, known, waiting, since, passed, tide, by the numbers in Rule.
+        private static final long[] WORDS = {
+            0x73686970L, 0x6a6f6b65L, 0x636172676fL, 0x6b65657073L, 0x6c696b65L, 0x6672657368L,
+            0x6b6e6f776eL, 0x77616974696e67L, 0x73696e6365L, 0x706173736564L, 0x74696465L
+        };
 
         private final Tape tape;
         private final int[] code = new int[MOST_BYTES];
-        private final int[] bounds = new int[2 * MOST_CLAUSES + 1];
+        private final int[] spare = new int[2 * MOST_COUNTED];
         private int length;
-        private int clauses;
         private int counted;
-        private boolean timed;
+        private int words;
 
         RuleReader(Tape tape) {
             this.tape = tape;
@@ -698,162 +697,182 @@ public final class BarPilot {
         int read() {
             tape.rewind();
             length = 0;
-            clauses = 0;
             counted = 0;
-            timed = false;
+            words = 0;
             boolean more = true;
             for (int clause = 0; more && clause <= MOST_CLAUSES; clause++) {
-                more = readClause() && readSeparator();
+                more = readClause(clause) && tape.takesSeparator();
             }
             return tape.fault;
         }
 
         Rule made() {
-            return new Rule(Arrays.copyOf(code, length), Arrays.copyOf(bounds, 2 * clauses + 1), timed);
+            return new Rule(Arrays.copyOf(code, length), words);
         }
 
-        private boolean readSeparator() {
-            if (tape.takes(';')) {
-                return true;
-            }
-            return tape.place < tape.length && tape.failAt(tape.place, 0);
-        }
-
-        private boolean readClause() {
-            if (!tape.takesWord("tell")) {
+        private boolean readClause(int clause) {
+            if (tape.word != TELL) {
                 return tape.failAt(tape.start, 0);
             }
-            if (clauses >= MOST_CLAUSES) {
+            if (clause >= MOST_CLAUSES) {
                 return tape.failAt(tape.start, 4);
             }
-            bounds[2 * clauses] = length;
+            tape.next();
+            int sumAt = length;
             if (!readSum()) {
                 return false;
             }
-            bounds[2 * clauses + 1] = length;
-            if (tape.takesWord("if") && !readTest(0)) {
-                return false;
+            if (tape.word == IF) {
+                int testAt = length;
+                tape.next();
+                if (!readTest(0)) {
+                    return false;
+                }
+                moveTestAhead(sumAt, testAt);
             }
-            clauses++;
-            bounds[2 * clauses] = length;
-            return true;
+            return put(Rule.GIVE, 0);
         }
 
+        // The text has the sum first, but it counts only if the test holds.
+        private void moveTestAhead(int sumAt, int testAt) {
+            int sum = testAt - sumAt;
+            System.arraycopy(code, sumAt, spare, 0, sum);
+            System.arraycopy(code, testAt, code, sumAt, length - testAt);
+            length -= sum;
+            put(Rule.SKIP, sum + 1);
+            System.arraycopy(spare, 0, code, length, sum);
+            length += sum;
+        }
+
+        // An or waits for all that and joins behind it, so it lands at the next or, or at the end.
         private boolean readTest(int depth) {
-            boolean right = readPart(depth);
-            while (right && tape.takesWord("or")) {
-                int jump = length;
-                put(Rule.OR, 0);
-                right = readPart(depth);
-                land(jump);
-            }
-            return right;
-        }
-
-        private boolean readPart(int depth) {
+            int waiting = NONE;
             boolean right = readFact(depth);
-            while (right && tape.takesWord("and")) {
+            while (right && (tape.word == AND || tape.word == OR)) {
+                boolean and = tape.word == AND;
+                if (!and) {
+                    land(waiting);
+                    waiting = length;
+                }
                 int jump = length;
-                put(Rule.AND, 0);
+                put(and ? Rule.AND : Rule.OR, 0);
+                tape.next();
                 right = readFact(depth);
-                land(jump);
+                if (and) {
+                    land(jump);
+                }
             }
+            land(waiting);
             return right;
         }
 
         private boolean readFact(int depth) {
-            tape.findWord();
-            boolean not = tape.foundWord("not");
-            if (!not && tape.sign() != '[') {
-                return readCompared();
-            }
-            if (depth >= MOST_DEEP) {
-                return tape.failAt(tape.place, 2);
+            boolean not = tape.word == NOT;
+            boolean opens = tape.sign == '[';
+            if ((not || opens) && depth >= MOST_DEEP) {
+                return tape.failAt(tape.start, 2);
             }
             if (not) {
-                tape.place = tape.stop;
+                tape.next();
                 return readFact(depth + 1) && put(Rule.NOT, 0);
             }
-            tape.place++;
-            return readTest(depth + 1) && (tape.takes(']') || tape.failAt(tape.place, 0));
-        }
-
-        private boolean readCompared() {
+            if (opens) {
+                tape.next();
+                if (!readTest(depth + 1)) {
+                    return false;
+                }
+                if (tape.sign != ']') {
+                    return tape.failAt(tape.start, 0);
+                }
+                tape.next();
+                return true;
+            }
             if (!readSum()) {
                 return false;
             }
-            int sign = tape.sign();
-            int where = tape.place;
-            if (sign != '<' && sign != '=' && sign != '>') {
-                return tape.failAt(where, 0);
+            int step = compareStep(tape.sign);
+            if (step == NONE) {
+                return tape.failAt(tape.start, 0);
             }
-            if (!counts(where)) {
+            if (!counts(tape.start)) {
                 return false;
             }
-            tape.place++;
-            boolean orSame = sign != '=' && tape.place < tape.length && tape.bytes[tape.place] == '=';
-            if (orSame) {
-                tape.place++;
-            }
-            return readSum() && put(compareOf(sign, orSame), 0);
+            tape.next();
+            return readSum() && put(step, 0);
         }
 
-        private static int compareOf(int sign, boolean orSame) {
-            if (sign == '=') {
-                return Rule.SAME;
+        private static int compareStep(int sign) {
+            switch (sign) {
+                case '<':
+                    return Rule.BELOW;
+                case '<' + Tape.OR_SAME:
+                    return Rule.AT_MOST;
+                case '=':
+                    return Rule.SAME;
+                case '>' + Tape.OR_SAME:
+                    return Rule.AT_LEAST;
+                case '>':
+                    return Rule.ABOVE;
+                default:
+                    return NONE;
             }
-            if (sign == '<') {
-                return orSame ? Rule.AT_MOST : Rule.BELOW;
-            }
-            return orSame ? Rule.AT_LEAST : Rule.ABOVE;
         }
 
+        // A + or - waits until the term behind it is whole.
         private boolean readSum() {
-            boolean right = readTerm();
-            int sign = tape.sign();
-            while (right && (sign == '+' || sign == '-')) {
-                tape.place++;
-                right = readTerm() && put(sign == '+' ? Rule.ADD : Rule.TAKE, 0);
-                sign = tape.sign();
+            int waiting = NONE;
+            boolean right = readValue();
+            int step = joinStep(tape.sign);
+            while (right && step != NONE) {
+                tape.next();
+                if (step == Rule.ADD || step == Rule.TAKE) {
+                    if (waiting != NONE) {
+                        put(waiting, 0);
+                    }
+                    waiting = step;
+                    right = readValue();
+                } else {
+                    right = readValue() && put(step, 0);
+                }
+                step = joinStep(tape.sign);
+            }
+            if (waiting != NONE) {
+                put(waiting, 0);
             }
             return right;
         }
 
-        private boolean readTerm() {
-            boolean right = readValue();
-            int sign = tape.sign();
-            while (right && (sign == '*' || sign == '/' || sign == '%')) {
-                tape.place++;
-                int join = sign == '*' ? Rule.TIMES : sign == '/' ? Rule.SHARE : Rule.REST;
-                right = readValue() && put(join, 0);
-                sign = tape.sign();
+        private static int joinStep(int sign) {
+            switch (sign) {
+                case '+':
+                    return Rule.ADD;
+                case '-':
+                    return Rule.TAKE;
+                case '*':
+                    return Rule.TIMES;
+                case '/':
+                    return Rule.SHARE;
+                case '%':
+                    return Rule.REST;
+                default:
+                    return NONE;
             }
-            return right;
         }
 
         private boolean readValue() {
-            tape.findWord();
             int where = tape.start;
-            if (tape.isDigit()) {
-                int number = tape.number(0, 99999);
+            if (tape.kind == Tape.NUMBER) {
+                int number = tape.takeNumber(0, 99999);
                 return number != NONE && counts(where) && put(Rule.NUMBER, number);
             }
-            int word = wordFound();
-            if (word == NONE) {
-                return tape.failAt(where, 0);
-            }
-            tape.place = tape.stop;
-            timed = timed || word == Rule.TIDE || word == Rule.KEEPS || word == Rule.SINCE;
-            return counts(where) && put(Rule.WORD, word);
-        }
-
-        private int wordFound() {
-            for (int word = 0; word < Rule.WORDS; word++) {
-                if (tape.foundWord(Rule.wordAt(word))) {
-                    return word;
+            for (int word = 0; word < WORDS.length; word++) {
+                if (tape.word == WORDS[word]) {
+                    tape.next();
+                    words |= 1 << word;
+                    return counts(where) && put(Rule.WORD, word);
                 }
             }
-            return NONE;
+            return tape.failAt(where, 0);
         }
 
         private boolean counts(int where) {
@@ -871,32 +890,33 @@ public final class BarPilot {
         }
 
         private void land(int jump) {
-            if (jump < code.length) {
-                code[jump] |= length;
+            if (jump != NONE && jump < length) {
+                code[jump] |= length - jump - 1;
             }
         }
     }
 
-    /** A rule in code: of each clause its sum, then its test. */
+    /** A rule in code: of each clause its test, a step that skips the clause, its sum, a step that gives it. */
     private static final class Rule {
         static final int STEP_SHIFT = 20;
-        static final int WITH_MASK = (1 << STEP_SHIFT) - 1;
 
         static final int NUMBER = 0;
         static final int WORD = 1;
         static final int NOT = 2;
         static final int AND = 3;
         static final int OR = 4;
-        static final int ADD = 5;
-        static final int TAKE = 6;
-        static final int TIMES = 7;
-        static final int SHARE = 8;
-        static final int REST = 9;
-        static final int BELOW = 10;
-        static final int AT_MOST = 11;
-        static final int SAME = 12;
-        static final int AT_LEAST = 13;
-        static final int ABOVE = 14;
+        static final int SKIP = 5;
+        static final int GIVE = 6;
+        static final int ADD = 7;
+        static final int TAKE = 8;
+        static final int TIMES = 9;
+        static final int SHARE = 10;
+        static final int REST = 11;
+        static final int BELOW = 12;
+        static final int AT_MOST = 13;
+        static final int SAME = 14;
+        static final int AT_LEAST = 15;
+        static final int ABOVE = 16;
 
         static final int SHIP = 0;
         static final int JOKE = 1;
@@ -909,63 +929,28 @@ public final class BarPilot {
         static final int SINCE = 8;
         static final int PASSED = 9;
         static final int TIDE = 10;
-        static final int WORDS = 11;
+        static final int ALL_WORDS = 11;
+
+        private static final int WITH_MASK = (1 << STEP_SHIFT) - 1;
+        private static final int TIMED_WORDS = 1 << KEEPS | 1 << SINCE | 1 << TIDE;
 
         // Whether what it tells can change while nobody is heard and nothing fades.
         final boolean timed;
+        final boolean asksKnown;
         private final int[] code;
-        private final int[] bounds;
         // A compared sum, a sum, a term and a value lie on it at once, no more.
         private final long[] stack = new long[8];
 
-        Rule(int[] code, int[] bounds, boolean timed) {
+        Rule(int[] code, int words) {
             this.code = code;
-            this.bounds = bounds;
-            this.timed = timed;
+            timed = (words & TIMED_WORDS) != 0;
+            asksKnown = (words & 1 << KNOWN) != 0;
         }
 
-        static String wordAt(int word) {
-            switch (word) {
-                case SHIP:
-                    return "ship";
-                case JOKE:
-                    return "joke";
-                case CARGO:
-                    return "cargo";
-                case KEEPS:
-                    return "keeps";
-                case LIKE:
-                    return "like";
-                case FRESH:
-                    return "fresh";
-                case KNOWN:
-                    return "known";
-                case WAITING:
-                    return "waiting";
-                case SINCE:
-                    return "since";
-                case PASSED:
-                    return "passed";
-                default:
-                    return "tide";
-            }
-        }
-
-        // What the first clause that holds says of the ship and the joke that the pilot looks at.
-        long worth(Pilot pilot) {
-            for (int at = 0; at + 2 < bounds.length; at += 2) {
-                int test = bounds[at + 1];
-                int stop = bounds[at + 2];
-                if (test == stop || reckon(test, stop, pilot) != 0) {
-                    return reckon(bounds[at], test, pilot);
-                }
-            }
-            return 0;
-        }
-
-        private long reckon(int from, int stop, Pilot pilot) {
+        // What the first clause that holds says, the words being worth so much.
+        long worth(int[] values) {
             int top = -1;
-            for (int at = from; at < stop; at++) {
+            for (int at = 0; at < code.length; at++) {
                 int step = code[at] >> STEP_SHIFT;
                 int with = code[at] & WITH_MASK;
                 switch (step) {
@@ -975,32 +960,40 @@ public final class BarPilot {
                         break;
                     case WORD:
                         top++;
-                        stack[top] = pilot.valueOf(with);
+                        stack[top] = values[with];
                         break;
                     case NOT:
                         stack[top] = 1 - stack[top];
                         break;
                     case AND:
                         if (stack[top] == 0) {
-                            at = with - 1;
+                            at += with;
                         } else {
                             top--;
                         }
                         break;
                     case OR:
                         if (stack[top] != 0) {
-                            at = with - 1;
+                            at += with;
                         } else {
                             top--;
                         }
                         break;
+                    case SKIP:
+                        if (stack[top] == 0) {
+                            at += with;
+                        }
+                        top--;
+                        break;
+                    case GIVE:
+                        return stack[top];
                     default:
                         top--;
                         stack[top] = joined(step, stack[top], stack[top + 1]);
                         break;
                 }
             }
-            return stack[0];
+            return 0;
         }
 
         private static long joined(int step, long left, long right) {
@@ -1244,11 +1237,21 @@ public final class BarPilot {
         }
 
         int since(int joke) {
-            return Math.min(99, tide - heard[joke]);
+            int tides = tide - heard[joke];
+            return tides < 99 ? tides : 99;
         }
 
         boolean isKnown(int ship, int joke) {
             return (knows[ship] >> joke & 1) != 0;
+        }
+
+        // To all ships that wait.
+        void teach(int jokes) {
+            for (int ship = 0; ship < MOST_SHIPS; ship++) {
+                if (passed[ship] == NONE) {
+                    knows[ship] |= jokes;
+                }
+            }
         }
 
         int share(int one, int other) {
@@ -1326,12 +1329,11 @@ public final class BarPilot {
         // What each ship told on the last tide.
         final int[] said = new int[MOST_SHIPS];
         private final Told told;
+        private final int[] values = new int[Rule.ALL_WORDS];
         private Scene scene;
         private int memory;
         private int waiting;
         private boolean quiet;
-        private int ship;
-        private int joke;
 
         Pilot(Told told) {
             this.told = told;
@@ -1356,48 +1358,48 @@ public final class BarPilot {
 
         int turns(int from, int stop) {
             int passes = 0;
-            for (int who = from; who < stop; who++) {
-                said[who] = (waiting >> who & 1) == 0 ? NONE : pick(who);
-                if (said[who] != NONE && hears(who, said[who])) {
-                    passes |= 1 << who;
+            for (int ship = from; ship < stop; ship++) {
+                said[ship] = (waiting >> ship & 1) == 0 ? NONE : pick(ship);
+                if (said[ship] != NONE && hears(ship, said[ship])) {
+                    passes |= 1 << ship;
                 }
             }
             return passes;
         }
 
         // Whether the ship passes.
-        boolean hears(int who, int what) {
-            boolean passes = told.isNew(what, memory);
+        boolean hears(int ship, int joke) {
+            boolean passes = told.isNew(joke, memory);
             if (passes) {
-                scene.passed[who] = scene.tide;
-                waiting &= ~(1 << who);
+                scene.passed[ship] = scene.tide;
+                waiting &= ~(1 << ship);
             }
-            scene.heard[what] = scene.tide;
-            memory |= 1 << what;
+            scene.heard[joke] = scene.tide;
+            memory |= 1 << joke;
             quiet = false;
             return passes;
         }
 
-        private int pick(int who) {
-            return rule == null ? leastNew(who) : pickByRule(who);
-        }
-
-        int leastNew(int who) {
-            for (int what = 0; what < told.jokes; what++) {
-                if (scene.isKnown(who, what) && told.isNew(what, memory)) {
-                    return what;
+        int leastNew(int ship) {
+            for (int joke = 0; joke < told.jokes; joke++) {
+                if (scene.isKnown(ship, joke) && told.isNew(joke, memory)) {
+                    return joke;
                 }
             }
             return NONE;
         }
 
-        private int pickByRule(int who) {
+        private int pick(int ship) {
+            if (rule == null) {
+                return leastNew(ship);
+            }
+            lookAtShip(ship);
             int best = NONE;
             long most = 0;
-            ship = who;
-            for (joke = 0; joke < told.jokes; joke++) {
-                if (scene.isKnown(who, joke)) {
-                    long worth = rule.worth(this);
+            for (int joke = 0; joke < told.jokes; joke++) {
+                if (scene.isKnown(ship, joke)) {
+                    lookAtJoke(joke);
+                    long worth = rule.worth(values);
                     if (worth > most) {
                         most = worth;
                         best = joke;
@@ -1407,37 +1409,29 @@ public final class BarPilot {
             return best;
         }
 
-        int valueOf(int word) {
-            switch (word) {
-                case Rule.SHIP:
-                    return ship;
-                case Rule.JOKE:
-                    return joke;
-                case Rule.CARGO:
-                    return told.cargo[ship];
-                case Rule.KEEPS:
-                    return told.keeps[ship] - scene.tide;
-                case Rule.LIKE:
-                    return told.mostAlike(joke, memory);
-                case Rule.FRESH:
-                    return told.isNew(joke, memory) ? 1 : 0;
-                case Rule.KNOWN:
-                    return howManyKnow();
-                case Rule.WAITING:
-                    return Integer.bitCount(waiting);
-                case Rule.SINCE:
-                    return scene.since(joke);
-                case Rule.PASSED:
-                    return told.ships - Integer.bitCount(waiting);
-                default:
-                    return scene.tide;
-            }
+        private void lookAtShip(int ship) {
+            int many = Integer.bitCount(waiting);
+            values[Rule.SHIP] = ship;
+            values[Rule.CARGO] = told.cargo[ship];
+            values[Rule.KEEPS] = told.keeps[ship] - scene.tide;
+            values[Rule.WAITING] = many;
+            values[Rule.PASSED] = told.ships - many;
+            values[Rule.TIDE] = scene.tide;
         }
 
-        private int howManyKnow() {
+        private void lookAtJoke(int joke) {
+            values[Rule.JOKE] = joke;
+            values[Rule.LIKE] = told.mostAlike(joke, memory);
+            values[Rule.FRESH] = told.isNew(joke, memory) ? 1 : 0;
+            values[Rule.SINCE] = scene.since(joke);
+            // The one dear word: it goes through all ships, so it is reckoned only where it is asked for.
+            values[Rule.KNOWN] = rule.asksKnown ? howManyKnow(joke) : 0;
+        }
+
+        private int howManyKnow(int joke) {
             int many = 0;
-            for (int who = 0; who < told.ships; who++) {
-                many += waiting >> who & scene.knows[who] >> joke & 1;
+            for (int ship = 0; ship < told.ships; ship++) {
+                many += waiting >> ship & scene.knows[ship] >> joke & 1;
             }
             return many;
         }
@@ -1445,7 +1439,9 @@ public final class BarPilot {
         void goOn(Scene met, int tides) {
             int last = met.tide + tides;
             for (int i = 0; i < tides && met.tide < last; i++) {
-                oneTide(met);
+                meet(met);
+                turns(0, told.ships);
+                met.tide++;
                 if (waiting == 0) {
                     met.tide = last;
                 } else if (quiet && (rule == null || !rule.timed)) {
@@ -1457,9 +1453,9 @@ public final class BarPilot {
         // A tide on which nobody tells comes again just so until a joke fades.
         private int nextFading() {
             int next = Integer.MAX_VALUE;
-            for (int what = 0; what < told.jokes; what++) {
-                if ((memory >> what & 1) != 0) {
-                    next = Math.min(next, scene.heard[what] + told.fades);
+            for (int joke = 0; joke < told.jokes; joke++) {
+                if ((memory >> joke & 1) != 0) {
+                    next = Math.min(next, scene.heard[joke] + told.fades);
                 }
             }
             return next;
@@ -1573,13 +1569,15 @@ public final class BarPilot {
         void findForgotten(int tides) {
             int memory = told.remembered(book.scene);
             first = NONE;
-            amount = told.earned(later(tides));
-            for (int joke = 0; joke < told.jokes; joke++) {
-                if ((memory >> joke & 1) == 0) {
+            amount = NONE;
+            for (int joke = NONE; joke < told.jokes; joke++) {
+                if (joke != NONE && (memory >> joke & 1) == 0) {
                     continue;
                 }
                 work.copyFrom(book.scene);
-                work.heard[joke] = NEVER;
+                if (joke != NONE) {
+                    work.heard[joke] = NEVER;
+                }
                 pilot.goOn(work, tides);
                 int earned = told.earned(work);
                 if (earned > amount) {
@@ -1597,22 +1595,19 @@ public final class BarPilot {
             amount = told.earned(later(tides));
             for (int one = 0; one < told.ships; one++) {
                 for (int other = one + 1; other < told.ships; other++) {
-                    if ((waiting >> one & waiting >> other & 1) != 0) {
-                        tryTrade(one, other, tides);
+                    if ((waiting >> one & waiting >> other & 1) == 0) {
+                        continue;
+                    }
+                    work.copyFrom(book.scene);
+                    work.share(one, other);
+                    pilot.goOn(work, tides);
+                    int earned = told.earned(work);
+                    if (earned > amount) {
+                        amount = earned;
+                        first = one;
+                        second = other;
                     }
                 }
-            }
-        }
-
-        private void tryTrade(int one, int other, int tides) {
-            work.copyFrom(book.scene);
-            work.share(one, other);
-            pilot.goOn(work, tides);
-            int earned = told.earned(work);
-            if (earned > amount) {
-                amount = earned;
-                first = one;
-                second = other;
             }
         }
 
@@ -1620,23 +1615,18 @@ public final class BarPilot {
         int findLessons(int tides) {
             for (int size = 0; size <= told.jokes; size++) {
                 for (int set = 0; set < 1 << told.jokes; set++) {
-                    if (Integer.bitCount(set) == size && allPassBy(set, tides)) {
+                    if (Integer.bitCount(set) != size) {
+                        continue;
+                    }
+                    work.copyFrom(book.scene);
+                    work.teach(set);
+                    pilot.goOn(work, tides);
+                    if (told.waiting(work) == 0) {
                         return set;
                     }
                 }
             }
             return NONE;
-        }
-
-        private boolean allPassBy(int set, int tides) {
-            work.copyFrom(book.scene);
-            for (int ship = 0; ship < told.ships; ship++) {
-                if (work.passed[ship] == NONE) {
-                    work.knows[ship] |= set;
-                }
-            }
-            pilot.goOn(work, tides);
-            return told.waiting(work) == 0;
         }
 
         // How many sets to amount, the least to first, what is in all to second.
