@@ -467,17 +467,21 @@ public final class BarPilot {
         static final int SIGN = 3;
         // Added to the byte of a < or > that a = follows.
         static final int OR_SAME = 256;
+        static final int TOO_LONG = 100000;
+        private static final int MOST_DIGITS = 5;
+        private static final int MOST_LETTERS = 7;
 
         final int[] bytes = new int[MOST_BYTES];
         int length;
         int fault;
         int kind;
         int start;
-        // The letters of a word as bytes of one number, or 0: no word that can stand has more than eight.
+        // Of a number, TOO_LONG if it has too many digits.
+        int value;
+        // The letters of a word as bytes of one number, or 0: no word that can stand has more than seven.
         long word;
         // The byte of a sign, or NONE.
         int sign;
-        private int value;
         private int stop;
 
         void put(int four) {
@@ -504,49 +508,29 @@ public final class BarPilot {
             while (stop < length && bytes[stop] == ' ') {
                 stop++;
             }
+            kind = END;
             start = stop;
+            value = 0;
             word = 0;
             sign = NONE;
-            if (stop >= length) {
-                kind = END;
-            } else if (bytes[stop] >= '0' && bytes[stop] <= '9') {
-                kind = NUMBER;
-                readDigits();
-            } else if (bytes[stop] >= 'a' && bytes[stop] <= 'z') {
-                kind = WORD;
-                readLetters();
-            } else {
-                kind = SIGN;
-                readSign();
-            }
-        }
-
-        private void readDigits() {
-            value = 0;
             while (stop < length && bytes[stop] >= '0' && bytes[stop] <= '9') {
-                if (stop - start < 5) {
-                    value = 10 * value + bytes[stop] - '0';
+                kind = NUMBER;
+                value = stop - start < MOST_DIGITS ? 10 * value + bytes[stop] - '0' : TOO_LONG;
+                stop++;
+            }
+            while (kind != NUMBER && stop < length && bytes[stop] >= 'a' && bytes[stop] <= 'z') {
+                kind = WORD;
+                word = stop - start < MOST_LETTERS ? word << 8 | bytes[stop] : 0;
+                stop++;
+            }
+            if (kind == END && stop < length) {
+                kind = SIGN;
+                sign = bytes[stop];
+                stop++;
+                if ((sign == '<' || sign == '>') && stop < length && bytes[stop] == '=') {
+                    sign += OR_SAME;
+                    stop++;
                 }
-                stop++;
-            }
-        }
-
-        private void readLetters() {
-            while (stop < length && bytes[stop] >= 'a' && bytes[stop] <= 'z') {
-                word = word << 8 | bytes[stop];
-                stop++;
-            }
-            if (stop - start > 8) {
-                word = 0;
-            }
-        }
-
-        private void readSign() {
-            sign = bytes[stop];
-            stop++;
-            if ((sign == '<' || sign == '>') && stop < length && bytes[stop] == '=') {
-                sign += OR_SAME;
-                stop++;
             }
         }
 
@@ -556,7 +540,7 @@ public final class BarPilot {
                 failAt(start, 0);
                 return NONE;
             }
-            if (stop - start > 5 || value < low || value > high) {
+            if (value < low || value > high) {
                 failAt(start, 1);
                 return NONE;
             }
@@ -748,7 +732,7 @@ public final class BarPilot {
         private boolean readTest(int depth) {
             int waiting = NONE;
             boolean right = readFact(depth);
-            while (right && (tape.word == AND || tape.word == OR)) {
+            for (int i = 0; i < MOST_BYTES && right && (tape.word == AND || tape.word == OR); i++) {
                 boolean and = tape.word == AND;
                 if (!and) {
                     land(waiting);
@@ -822,8 +806,8 @@ public final class BarPilot {
         private boolean readSum() {
             int waiting = NONE;
             boolean right = readValue();
-            int step = joinStep(tape.sign);
-            while (right && step != NONE) {
+            for (int i = 0; i < MOST_BYTES && right && joinStep(tape.sign) != NONE; i++) {
+                int step = joinStep(tape.sign);
                 tape.next();
                 if (step == Rule.ADD || step == Rule.TAKE) {
                     if (waiting != NONE) {
@@ -834,7 +818,6 @@ public final class BarPilot {
                 } else {
                     right = readValue() && put(step, 0);
                 }
-                step = joinStep(tape.sign);
             }
             if (waiting != NONE) {
                 put(waiting, 0);
@@ -862,8 +845,12 @@ public final class BarPilot {
         private boolean readValue() {
             int where = tape.start;
             if (tape.kind == Tape.NUMBER) {
-                int number = tape.takeNumber(0, 99999);
-                return number != NONE && counts(where) && put(Rule.NUMBER, number);
+                int number = tape.value;
+                if (number == Tape.TOO_LONG) {
+                    return tape.failAt(where, 1);
+                }
+                tape.next();
+                return counts(where) && put(Rule.NUMBER, number);
             }
             for (int word = 0; word < WORDS.length; word++) {
                 if (tape.word == WORDS[word]) {
@@ -936,6 +923,7 @@ public final class BarPilot {
 
         // Whether what it tells can change while nobody is heard and nothing fades.
         final boolean timed;
+        final boolean asksLike;
         final boolean asksKnown;
         private final int[] code;
         // A compared sum, a sum, a term and a value lie on it at once, no more.
@@ -944,6 +932,7 @@ public final class BarPilot {
         Rule(int[] code, int words) {
             this.code = code;
             timed = (words & TIMED_WORDS) != 0;
+            asksLike = (words & 1 << LIKE) != 0;
             asksKnown = (words & 1 << KNOWN) != 0;
         }
 
@@ -1105,12 +1094,13 @@ public final class BarPilot {
         }
 
         int mostAlike(int joke, int memory) {
-            for (int k = 3; k > 0; k--) {
-                if ((near[MOST_JOKES * k + joke] & memory) != 0) {
-                    return k;
-                }
+            if ((near[3 * MOST_JOKES + joke] & memory) != 0) {
+                return 3;
             }
-            return 0;
+            if ((near[2 * MOST_JOKES + joke] & memory) != 0) {
+                return 2;
+            }
+            return (near[MOST_JOKES + joke] & memory) != 0 ? 1 : 0;
         }
 
         int leastUnlike() {
@@ -1421,10 +1411,10 @@ public final class BarPilot {
 
         private void lookAtJoke(int joke) {
             values[Rule.JOKE] = joke;
-            values[Rule.LIKE] = told.mostAlike(joke, memory);
             values[Rule.FRESH] = told.isNew(joke, memory) ? 1 : 0;
             values[Rule.SINCE] = scene.since(joke);
-            // The one dear word: it goes through all ships, so it is reckoned only where it is asked for.
+            // The dear words are reckoned only where they are asked for.
+            values[Rule.LIKE] = rule.asksLike ? told.mostAlike(joke, memory) : 0;
             values[Rule.KNOWN] = rule.asksKnown ? howManyKnow(joke) : 0;
         }
 
@@ -1436,13 +1426,14 @@ public final class BarPilot {
             return many;
         }
 
-        void goOn(Scene met, int tides) {
+        // It goes no further once fewer than so many ships wait.
+        void goOn(Scene met, int tides, int fewest) {
             int last = met.tide + tides;
             for (int i = 0; i < tides && met.tide < last; i++) {
                 meet(met);
                 turns(0, told.ships);
                 met.tide++;
-                if (waiting == 0) {
+                if (Integer.bitCount(waiting) < fewest) {
                     met.tide = last;
                 } else if (quiet && (rule == null || !rule.timed)) {
                     met.tide = Math.min(last, nextFading());
@@ -1491,7 +1482,7 @@ public final class BarPilot {
 
         Scene later(int tides) {
             work.copyFrom(book.scene);
-            pilot.goOn(work, tides);
+            pilot.goOn(work, tides, 1);
             return work;
         }
 
@@ -1578,7 +1569,7 @@ public final class BarPilot {
                 if (joke != NONE) {
                     work.heard[joke] = NEVER;
                 }
-                pilot.goOn(work, tides);
+                pilot.goOn(work, tides, 1);
                 int earned = told.earned(work);
                 if (earned > amount) {
                     amount = earned;
@@ -1600,7 +1591,7 @@ public final class BarPilot {
                     }
                     work.copyFrom(book.scene);
                     work.share(one, other);
-                    pilot.goOn(work, tides);
+                    pilot.goOn(work, tides, 1);
                     int earned = told.earned(work);
                     if (earned > amount) {
                         amount = earned;
@@ -1613,14 +1604,16 @@ public final class BarPilot {
 
         // The set, or NONE.
         int findLessons(int tides) {
+            // A joke that all know anyway changes nothing, so it is in no fewest set.
+            int known = commonJokes();
             for (int size = 0; size <= told.jokes; size++) {
                 for (int set = 0; set < 1 << told.jokes; set++) {
-                    if (Integer.bitCount(set) != size) {
+                    if (Integer.bitCount(set) != size || (set & known) != 0) {
                         continue;
                     }
                     work.copyFrom(book.scene);
                     work.teach(set);
-                    pilot.goOn(work, tides);
+                    pilot.goOn(work, tides, 1);
                     if (told.waiting(work) == 0) {
                         return set;
                     }
@@ -1629,8 +1622,20 @@ public final class BarPilot {
             return NONE;
         }
 
+        private int commonJokes() {
+            int jokes = -1;
+            for (int ship = 0; ship < told.ships; ship++) {
+                if (book.scene.passed[ship] == NONE) {
+                    jokes &= book.scene.knows[ship];
+                }
+            }
+            return jokes;
+        }
+
         // How many sets to amount, the least to first, what is in all to second.
         void findOldSets(Rule rule, int tides, int many) {
+            // Ships that have passed never wait again, so one too many settles a set.
+            int fewest = Math.max(1, told.ships - many);
             pilot.rule = rule;
             amount = 0;
             first = NONE;
@@ -1640,7 +1645,7 @@ public final class BarPilot {
                 for (int joke = 0; joke < told.jokes; joke++) {
                     work.heard[joke] = (set >> joke & 1) != 0 ? -1 : NEVER;
                 }
-                pilot.goOn(work, tides);
+                pilot.goOn(work, tides, fewest);
                 if (told.passed(work) == many) {
                     first = amount == 0 ? set : first;
                     second &= set;
