@@ -778,8 +778,8 @@ public final class BarPilot {
             if (step == NONE) {
                 return tape.failAt(tape.start, 0);
             }
-            if (!counts(tape.start)) {
-                return false;
+            if (!counts()) {
+                return tape.failAt(tape.start, 3);
             }
             tape.next();
             return readSum() && put(step, 0);
@@ -843,28 +843,39 @@ public final class BarPilot {
         }
 
         private boolean readValue() {
-            int where = tape.start;
-            if (tape.kind == Tape.NUMBER) {
-                int number = tape.value;
-                if (number == Tape.TOO_LONG) {
-                    return tape.failAt(where, 1);
-                }
-                tape.next();
-                return counts(where) && put(Rule.NUMBER, number);
+            if (tape.kind == Tape.NUMBER && tape.value == Tape.TOO_LONG) {
+                return tape.failAt(tape.start, 1);
             }
-            for (int word = 0; word < WORDS.length; word++) {
-                if (tape.word == WORDS[word]) {
-                    tape.next();
-                    words |= 1 << word;
-                    return counts(where) && put(Rule.WORD, word);
-                }
+            int word = wordFound();
+            if (tape.kind != Tape.NUMBER && word == NONE) {
+                return tape.failAt(tape.start, 0);
             }
-            return tape.failAt(where, 0);
+            if (!counts()) {
+                return tape.failAt(tape.start, 3);
+            }
+            if (word == NONE) {
+                put(Rule.NUMBER, tape.value);
+            } else {
+                put(Rule.WORD, word);
+                words |= 1 << word;
+            }
+            tape.next();
+            return true;
         }
 
-        private boolean counts(int where) {
+        private int wordFound() {
+            for (int word = 0; word < WORDS.length; word++) {
+                if (tape.word == WORDS[word]) {
+                    return word;
+                }
+            }
+            return NONE;
+        }
+
+        // Of values, and of facts made of a sign; a fault comes where it is one too many.
+        private boolean counts() {
             counted++;
-            return counted <= MOST_COUNTED || tape.failAt(where, 3);
+            return counted <= MOST_COUNTED;
         }
 
         // Every step stems from a byte of its own, so the code is never longer than the tape.
@@ -1371,8 +1382,9 @@ public final class BarPilot {
         }
 
         int leastNew(int ship) {
+            int known = scene.knows[ship];
             for (int joke = 0; joke < told.jokes; joke++) {
-                if (scene.isKnown(ship, joke) && told.isNew(joke, memory)) {
+                if ((known >> joke & 1) != 0 && told.isNew(joke, memory)) {
                     return joke;
                 }
             }
@@ -1384,10 +1396,11 @@ public final class BarPilot {
                 return leastNew(ship);
             }
             lookAtShip(ship);
+            int known = scene.knows[ship];
             int best = NONE;
             long most = 0;
             for (int joke = 0; joke < told.jokes; joke++) {
-                if (scene.isKnown(ship, joke)) {
+                if ((known >> joke & 1) != 0) {
                     lookAtJoke(joke);
                     long worth = rule.worth(values);
                     if (worth > most) {
