@@ -949,47 +949,49 @@ public final class BarPilot {
 
         // What the first clause that holds says, the words being worth so much.
         long worth(int[] values) {
+            int[] steps = code;
+            long[] pile = stack;
             int top = -1;
-            for (int at = 0; at < code.length; at++) {
-                int step = code[at] >> STEP_SHIFT;
-                int with = code[at] & WITH_MASK;
+            for (int at = 0; at < steps.length; at++) {
+                int step = steps[at] >> STEP_SHIFT;
+                int with = steps[at] & WITH_MASK;
                 switch (step) {
                     case NUMBER:
                         top++;
-                        stack[top] = with;
+                        pile[top] = with;
                         break;
                     case WORD:
                         top++;
-                        stack[top] = values[with];
+                        pile[top] = values[with];
                         break;
                     case NOT:
-                        stack[top] = 1 - stack[top];
+                        pile[top] = 1 - pile[top];
                         break;
                     case AND:
-                        if (stack[top] == 0) {
+                        if (pile[top] == 0) {
                             at += with;
                         } else {
                             top--;
                         }
                         break;
                     case OR:
-                        if (stack[top] != 0) {
+                        if (pile[top] != 0) {
                             at += with;
                         } else {
                             top--;
                         }
                         break;
                     case SKIP:
-                        if (stack[top] == 0) {
+                        if (pile[top] == 0) {
                             at += with;
                         }
                         top--;
                         break;
                     case GIVE:
-                        return stack[top];
+                        return pile[top];
                     default:
                         top--;
-                        stack[top] = joined(step, stack[top], stack[top + 1]);
+                        pile[top] = joined(step, pile[top], pile[top + 1]);
                         break;
                 }
             }
@@ -1545,7 +1547,7 @@ public final class BarPilot {
             Scene scene = levels[at];
             pilot.meet(scene);
             pilot.turns(0, ship);
-            if (at == last) {
+            if (at >= last || at >= choice.length - 1) {
                 choice[at] = pilot.leastNew(ship);
                 return choice[at] != NONE;
             }

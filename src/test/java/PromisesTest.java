@@ -196,6 +196,11 @@ public final class PromisesTest {
         due("] alone", readRule(b, "tell 1 if 1<2]"), fault(13, 0));
         due("words run on", readRule(b, "tell 1 if 1<shipand 2<3"), fault(12, 0));
         due("nothing behind ;", readRule(b, "tell 1; "), fault(8, 0));
+        due("a to z run on", readRule(b, "tell shipz"), fault(5, 0));
+        due("a to z run on", readRule(b, "tell aship"), fault(5, 0));
+        due("no letter", readRule(b, "tell ship{"), fault(9, 0));
+        due("no letter", readRule(b, "tell ship`"), fault(9, 0));
+        due("no digit", readRule(b, "tell 1:"), fault(6, 0));
         due("eleven [", readRule(b, "tell 1 if " + times("[", 11) + "1<2"), fault(20, 2));
         due("eleven not", readRule(b, "tell 1 if " + times("not ", 11) + "1<2"), fault(50, 2));
         due("mixed", readRule(b, "tell 1 if " + times("not[", 5) + "not 1<2"), fault(30, 2));
@@ -271,6 +276,14 @@ public final class PromisesTest {
         tells("tell like", 0);
         tells("tell like if like<3", 1);
         tells("tell 4-like", 3);
+        tells("tell 1 if like=3", 0);
+        tells("tell 1 if like=2", 1);
+        tells("tell 1 if like=1", 2);
+        tells("tell 1 if like=0", 3);
+        tells("tell joke" + " if 1<2" + times(" and 1<2", 18), 3);
+        tells("tell joke" + " if 2<1" + times(" or 2<1", 17) + " or joke<2", 1);
+        tells(times("tell 9 if 2<1;", 11) + "tell joke", 3);
+        tells("tell joke if 1<2 and 1<2 or 1<2 and 2<1 or 2<1 and 1<2 or 1<2", 3);
         tells("tell since-1", 1);
         tells("tell 5 if since=1;tell 6 if joke=2", 2);
         tells("tell 5 if joke=1;tell 9 if joke=1;tell 7 if joke=2", 2);
@@ -605,6 +618,22 @@ public final class PromisesTest {
         due("others by the rule come ahead", b.row(2, 1, 0), -2);
         due("once they are past", b.row(2, 3, 0), 2);
         due("none ahead of 0", b.row(2, 3, 1), NONE);
+        // Ship 1 tells 0 over and over, ship 4 tells 3, so that neither 0 nor 1 (like 3) gets new. But if ship 0 tells
+        // 1, ship 1 tells 2 behind it, is past, and 0 fades.
+        b = withBarAndRule("bar 2 2;joke 0 0 0;joke 1 1 2;joke 3 3 2;joke 1 1 1;ship 9 9;ship 9 9;ship 9 9;ship 9 9"
+                + ";ship 9 9;knows 0 0;knows 0 1;knows 1 0;knows 1 2;knows 2 0;knows 3 3;knows 4 3",
+                "tell 5 if joke=2 and like=1;tell 3 if joke=0 and ship=1;tell 3 if joke=3 and ship=4");
+        b.say(2, 0);
+        b.say(3, 3);
+        due("too short", b.row(0, 2, 0), -2);
+        due("tide", b.row(0, 3, 0), 2);
+        due("waits", b.row(0, 3, 1), NONE);
+        due("makes ship 1 pass", b.row(0, 3, 2), 1);
+        due("passes", b.row(0, 3, 3), 0);
+        b.tide();
+        due("tide", b.row(0, 2, 0), 2);
+        due("makes ship 1 pass", b.row(0, 2, 1), 1);
+        due("passes", b.row(0, 2, 2), 0);
     }
 
     private static void advice() {
@@ -668,6 +697,10 @@ public final class PromisesTest {
         due("by none", b.school(9, 1), -2);
         due("the one joke", b.school(10, 1), 1);
         due("no ships", withBar("bar 1 1").school(1, 0), 0);
+        // 0 is told on tide 0 alone, 1 on tide 1, 2 on any: 0 and 1 would do, but 2 alone does.
+        b = withBarAndRule("bar 1 3;joke 1 1 1;joke 2 2 2;joke 3 3 3;ship 5 9;ship 6 3", "tell 1 if joke=2 or joke=tide");
+        due("fewest", b.school(2, 0), 1);
+        due("not the least as bits", b.school(2, 1), 4);
     }
 
     private static void oldOnes() {
@@ -942,6 +975,16 @@ public final class PromisesTest {
         due("undo goes on", b.undo(), 1);
         due("undo goes on", b.undo(), 0);
         due("all wait", b.count(8), 3);
+        b.coin(0, 1);
+        b.coin(0, 2);
+        b.coin(1, 0);
+        due("the image stays", b.back(0), 2);
+        due("what was undone in between", b.undo(), 1);
+        due("tide", b.count(6), 1);
+        due("knows", b.ship(0, 2), 1);
+        due("and on", b.undo(), 0);
+        due("tide", b.count(6), 0);
+        due("knows", b.ship(0, 2), 1);
         due("the image stays", b.back(0), 2);
         due("none waits", b.count(8), 0);
         due("another", readBar(b, "bar 1 1"), -2 - 1);

@@ -10,9 +10,11 @@ public final class RandomRunsTest {
         "forget", "barter", "school", "old", "game", "parts", "order", "ruled", "look", "parrots"};
 
     private final Random random;
+    private final boolean undoing;
 
     private RandomRunsTest(long seed) {
         random = new Random(seed);
+        undoing = chance(20);
     }
 
     private int upTo(int n) {
@@ -76,7 +78,34 @@ public final class RandomRunsTest {
         return b.toString();
     }
 
+    private String plainFact() {
+        return (chance(15) ? "not " : "") + WORDS[upTo(WORDS.length)] + SIGNS[upTo(5)] + upTo(5);
+    }
+
+    /** Rules as a person would write them, which part jokes and ships more often than wild ones do. */
+    private String plainRuleText() {
+        StringBuilder b = new StringBuilder();
+        for (int i = 1 + upTo(3); i > 0; i--) {
+            b.append(b.length() == 0 ? "" : ";").append("tell ");
+            b.append(chance(40) ? "" + upTo(6) : chance(50) ? 1 + upTo(9) + "-joke" : WORDS[upTo(WORDS.length)]);
+            if (chance(30)) {
+                b.append(chance(50) ? "+" : "*").append(WORDS[upTo(WORDS.length)]);
+            }
+            if (chance(70)) {
+                b.append(" if ").append(plainFact());
+                if (chance(40)) {
+                    b.append(chance(50) ? " and " : " or ").append(plainFact());
+                }
+            }
+        }
+        return b.toString();
+    }
+
     String ruleText() {
+        return chance(60) ? plainRuleText() : wildRuleText();
+    }
+
+    private String wildRuleText() {
         StringBuilder b = new StringBuilder();
         for (int i = 1 + upTo(4); i > 0; i--) {
             b.append(b.length() == 0 ? "" : ";").append("tell ").append(sum());
@@ -179,6 +208,14 @@ public final class RandomRunsTest {
 
     void one(Both both) {
         int kind = upTo(100);
+        if (undoing && chance(30)) {
+            both.call("undo");
+            return;
+        }
+        if (undoing && chance(20)) {
+            both.call(chance(40) ? "image" : "back", upTo(2));
+            return;
+        }
         if (kind < 35) {
             act(both);
         } else if (kind < 80) {
@@ -241,7 +278,7 @@ public final class RandomRunsTest {
     }
 
     public static void main(String[] args) {
-        int runs = args.length > 0 ? Integer.parseInt(args[0]) : 600;
+        int runs = args.length > 0 ? Integer.parseInt(args[0]) : 1500;
         long from = args.length > 1 ? Long.parseLong(args[1]) : 0;
         for (long seed = from; seed < from + runs; seed++) {
             RandomRunsTest test = new RandomRunsTest(seed);
