@@ -15,6 +15,7 @@ public final class BarPilot {
     private static final int LAST_TIDE = 999;
     private static final int FAR_TIDES = 100;
     private static final int MANY_TIDES = 60;
+    private static final int LARGEST = 2147483647;
     // So long ago that it lies behind every FADES and behind the 99 of "since".
     private static final int NEVER = -100000;
 
@@ -668,7 +669,7 @@ public final class BarPilot {
 
         private final Tape tape;
         private final int[] code = new int[MOST_BYTES];
-        private final int[] spare = new int[2 * MOST_COUNTED];
+        private final int[] spare = new int[MOST_BYTES];
         private int length;
         private int counted;
         private int words;
@@ -720,6 +721,9 @@ public final class BarPilot {
         // The text has the sum first, but it counts only if the test holds.
         private void moveTestAhead(int sumAt, int testAt) {
             int sum = testAt - sumAt;
+            if (sum < 0 || length >= code.length) {
+                return;
+            }
             System.arraycopy(code, sumAt, spare, 0, sum);
             System.arraycopy(code, testAt, code, sumAt, length - testAt);
             length -= sum;
@@ -955,6 +959,9 @@ public final class BarPilot {
             for (int at = 0; at < steps.length; at++) {
                 int step = steps[at] >> STEP_SHIFT;
                 int with = steps[at] & WITH_MASK;
+                if (!fits(step, with, top)) {
+                    return 0;
+                }
                 switch (step) {
                     case NUMBER:
                         top++;
@@ -996,6 +1003,14 @@ public final class BarPilot {
                 }
             }
             return 0;
+        }
+
+        // The reader makes no code that does not; still no index is used that was not looked at.
+        private boolean fits(int step, int with, int top) {
+            if (step <= WORD) {
+                return top < stack.length - 1 && (step == NUMBER || with < ALL_WORDS);
+            }
+            return top >= (step >= ADD ? 1 : 0);
         }
 
         private static long joined(int step, long left, long right) {
@@ -1458,7 +1473,7 @@ public final class BarPilot {
 
         // A tide on which nobody tells comes again just so until a joke fades.
         private int nextFading() {
-            int next = Integer.MAX_VALUE;
+            int next = LARGEST;
             for (int joke = 0; joke < told.jokes; joke++) {
                 if ((memory >> joke & 1) != 0) {
                     next = Math.min(next, scene.heard[joke] + told.fades);
@@ -1528,7 +1543,7 @@ public final class BarPilot {
         }
 
         private static int passingOf(Scene then, int ship) {
-            return then.passed[ship] == NONE ? Integer.MAX_VALUE : then.passed[ship];
+            return then.passed[ship] == NONE ? LARGEST : then.passed[ship];
         }
 
         // After how many tides it passes, or NONE; the row to choice.
@@ -1683,7 +1698,7 @@ public final class BarPilot {
             }
             Scene scene = levels[at];
             Scene next = levels[at + 1];
-            int most = Integer.MIN_VALUE;
+            int most = -LARGEST;
             for (int joke = NONE; joke < told.jokes; joke++) {
                 if (joke != NONE && (scene.passed[mover] != NONE || !scene.isKnown(mover, joke))) {
                     continue;
@@ -1750,7 +1765,7 @@ public final class BarPilot {
         // The ship to first, the most alike to amount; tryRules must come ahead.
         void findParting(int ruleCount) {
             first = NONE;
-            amount = Integer.MAX_VALUE;
+            amount = LARGEST;
             for (int ship = 0; ship < told.ships; ship++) {
                 int most = 0;
                 for (int rule = 0; rule <= ruleCount; rule++) {
@@ -1796,7 +1811,7 @@ public final class BarPilot {
         }
 
         private int draw() {
-            x = x * 1103515245 + 12345 & Integer.MAX_VALUE;
+            x = x * 1103515245 + 12345 & LARGEST;
             return x / 65536;
         }
     }
