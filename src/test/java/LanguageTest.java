@@ -20,6 +20,8 @@ public final class LanguageTest {
             "tide 0", "say 2", "trade 2", "coin 2", "dull 1", "undo 0", "ahead 3", "over 2", "alike 2", "fresh 0",
             "least 0", "row 3", "forget 2", "barter 2", "school 2", "old 4", "game 4", "parts 2", "order 1", "note 3",
             "ruled 1", "look 2", "seed 1", "parrots 4", "count 1", "image 1", "back 1");
+    private static final Set<String> LIBRARY = Set.of("Integer.bitCount", "Math.max", "Math.min", "Arrays.copyOf",
+            "Arrays.fill", "System.arraycopy");
     private static int wrong = 0;
 
     private static void fail(String rule) {
@@ -115,6 +117,12 @@ public final class LanguageTest {
         while (imports.find()) {
             if (!imports.group(1).equals("java.util.Arrays")) {
                 fail("rule 4: import " + imports.group(1));
+            }
+        }
+        Matcher library = Pattern.compile("\\b(Integer|Long|Math|Arrays|System|String|StringBuilder)\\.\\w+").matcher(bare);
+        while (library.find()) {
+            if (!LIBRARY.contains(library.group())) {
+                fail("rule 4: " + library.group());
             }
         }
         for (char sign : text.toCharArray()) {

@@ -49,7 +49,8 @@ abstract class Sentences {
         named.add(promise);
         boolean found = quote(TERMS, "## Promise 1:", words);
         found |= quote("## What it is", "## The public face", words);
-        found |= quote("## Promise " + promise + ":", promise < PROMISES ? "## Promise " + (promise + 1) + ":" : REST, words);
+        String behind = promise < PROMISES ? "## Promise " + (promise + 1) + ":" : REST;
+        found |= quote("## Promise " + promise + ":", behind, words);
         if (!found) {
             fail("the document has no such words there");
         }

@@ -1,7 +1,8 @@
 /** What the pilot remembers, tides and acts: promises 7 to 14, and the terms that they use. */
 final class SentencesOfActs extends Sentences {
     /** Five ships and eight jokes, of which none is like another. */
-    private static final String FULL = "bar 9 1;joke 0 0 0;joke 1 1 1;joke 2 2 2;joke 3 3 3;joke 4 4 4;joke 5 5 5;joke 6 6 6"
+    private static final String FULL = "bar 9 1;joke 0 0 0;joke 1 1 1;joke 2 2 2;joke 3 3 3;joke 4 4 4;joke 5 5 5"
+            + ";joke 6 6 6"
             + ";joke 7 7 7;ship 1 1;ship 2 2;ship 3 3;ship 4 4;ship 5 5";
 
     static void tests() {
@@ -36,7 +37,8 @@ final class SentencesOfActs extends Sentences {
         });
         test(7, "A JOKE is NEW, if LIKE or more of its parts are alike to those of no JOKE that he REMEMBERS", () -> {
             for (int like = 1; like <= 3; like++) {
-                BarPilot b = open("bar 2 " + like + ";joke 1 1 1;joke 9 9 9;joke 8 1 8;joke 8 1 1;joke 1 1 1;ship 5 5;knows 0 0");
+                BarPilot b = open("bar 2 " + like + ";joke 1 1 1;joke 9 9 9;joke 8 1 8;joke 8 1 1;joke 1 1 1"
+                        + ";ship 5 5;knows 0 0");
                 due("all are at first", b.fresh(), 31);
                 b.say(0, 0);
                 for (int joke = 0; joke < 5; joke++) {
@@ -83,7 +85,8 @@ final class SentencesOfActs extends Sentences {
             due("EARNED by the first alone", b.count(7), 7);
         });
         test(10, "he has heard it on this TIDE, NEW or not.", () -> {
-            BarPilot b = open("bar 3 1;joke 1 1 1;joke 2 1 2;ship 7 2;ship 8 2;knows 0 0;knows 1 0;knows 1 1", "tell 0");
+            BarPilot b = open("bar 3 1;joke 1 1 1;joke 2 1 2;ship 7 2;ship 8 2;knows 0 0;knows 1 0"
+                    + ";knows 1 1", "tell 0");
             b.say(0, 0);
             due("NEW", b.joke(0, 5), 0);
             tides(b, 2);
@@ -99,7 +102,8 @@ final class SentencesOfActs extends Sentences {
 
     private static void tidesByHand() {
         test(9, "A TIDE: SHIPS that WAIT, by numbers, each by how all is then,", () -> {
-            BarPilot b = open("bar 9 3;joke 1 1 1;joke 2 2 2;ship 1 1;ship 2 2;ship 3 3;knows 0 0;knows 1 0;knows 2 0;knows 2 1");
+            BarPilot b = open("bar 9 3;joke 1 1 1;joke 2 2 2;ship 1 1;ship 2 2;ship 3 3;knows 0 0;knows 1 0"
+                    + ";knows 2 0;knows 2 1");
             due("0 is first; 1 finds it heard, 2 has another", b.tide(), 5);
             due("who is past tells no more", b.tide(), 0);
             due("and nothing was heard anew", b.joke(0, 5), 2);
@@ -108,11 +112,13 @@ final class SentencesOfActs extends Sentences {
             due("by how all is when it tells", b.tide(), 3);
             due("it told 1", b.count(9), 3);
         });
-        test(9, "TELL of the JOKES they KNOW that for which the SUM of the RULE IN FORCE's first CLAUSE without a TEST, "
+        test(9, "TELL of the JOKES they KNOW that for which the SUM of the RULE IN FORCE's first CLAUSE without a "
+                + "TEST, "
                 + "or whose TEST holds (0 without),", () -> {
             String bar = "bar 9 3;joke 0 0 0;joke 1 1 1;joke 2 2 2;joke 3 3 3;ship 1 1;knows 0 0;knows 0 1;knows 0 2";
             due("one not KNOWN", open(bar, "tell 9 if joke=3;tell 1 if joke=1").over(0, 1), 1);
-            due("the first whose TEST holds", open(bar, "tell 1 if joke=0;tell 5 if joke=0;tell 2 if joke=1").over(0, 1), 1);
+            due("the first whose TEST holds", open(bar, "tell 1 if joke=0;tell 5 if joke=0"
+                    + ";tell 2 if joke=1").over(0, 1), 1);
             due("one without a TEST hides those behind", open(bar, "tell 3-joke;tell 9 if joke=2").over(0, 1), 0);
             due("the last one", open(bar, times("tell 1 if 2<1;", 11) + "tell joke").over(0, 1), 2);
             due("0 without such a CLAUSE", open(bar, "tell 9 if joke=3").tide(), 0);
@@ -187,7 +193,8 @@ final class SentencesOfActs extends Sentences {
     }
 
     private static void jokesAndShips() {
-        test(7, "Of a JOKE what 0: SET, 1: TURN, 2: KIN, 3: 1 if he REMEMBERS it, else 0, 4: 1 if it is NEW, else 0,", () -> {
+        test(7, "Of a JOKE what 0: SET, 1: TURN, 2: KIN, 3: 1 if he REMEMBERS it, else 0, 4: 1 if it is NEW, else "
+                + "0,", () -> {
             BarPilot b = open("bar 3 2;joke 7 8 9;joke 7 8 0;joke 1 2 3;ship 1 1;knows 0 0");
             b.say(0, 0);
             int[][] want = {{7, 8, 9, 1, 0}, {7, 8, 0, 0, 0}, {1, 2, 3, 0, 1}};
@@ -221,8 +228,10 @@ final class SentencesOfActs extends Sentences {
             due("joke 8 of 8", open(FULL).joke(8, 0), NONE);
             due("no BAR", new BarPilot().joke(0, 5), NONE);
         });
-        test(8, "Of a SHIP what 0: CARGO, 1: KEEPS, 2: JOKES it KNOWS, as bits, 3: on which TIDE it PASSED (NONE: it WAITS).", () -> {
-            BarPilot b = open("bar 3 1;joke 1 1 1;joke 2 2 2;joke 3 3 3;ship 98 59;ship 97 58;knows 0 0;knows 0 2;knows 1 0");
+        test(8, "Of a SHIP what 0: CARGO, 1: KEEPS, 2: JOKES it KNOWS, as bits, 3: on which TIDE it PASSED (NONE: "
+                + "it WAITS).", () -> {
+            BarPilot b = open("bar 3 1;joke 1 1 1;joke 2 2 2;joke 3 3 3;ship 98 59;ship 97 58;knows 0 0;knows 0 2"
+                    + ";knows 1 0");
             tides(b, 2);
             int[][] want = {{98, 59, 5, 0}, {97, 58, 1, NONE}};
             for (int ship = 0; ship < 2; ship++) {
@@ -234,7 +243,8 @@ final class SentencesOfActs extends Sentences {
             due("ship(1, 3)", b.ship(1, 3), 3);
             due("none KNOWN", open("bar 1 1;joke 1 1 1;ship 1 1").ship(0, 2), 0);
             due("all KNOWN", open("bar 1 1;joke 1 1 1;joke 1 1 1;joke 1 1 1;joke 1 1 1;joke 1 1 1;joke 1 1 1;joke 1 1 1"
-                    + ";joke 1 1 1;ship 1 1;knows 0 0;knows 0 1;knows 0 2;knows 0 3;knows 0 4;knows 0 5;knows 0 6;knows 0 7")
+                    + ";joke 1 1 1;ship 1 1;knows 0 0;knows 0 1;knows 0 2;knows 0 3;knows 0 4;knows 0 5;knows 0 6"
+                    + ";knows 0 7")
                     .ship(0, 2), 255);
         });
         test(8, "-2 without these.", () -> {
@@ -282,7 +292,8 @@ final class SentencesOfActs extends Sentences {
             BarPilot none = new BarPilot();
             nothingHappens(none, () -> due("no BAR", none.say(0, 0), NONE));
         });
-        test(11, "TRADE (two SHIPS that WAIT, of which one at least KNOWS one the other does not: both KNOW all of both then);", () -> {
+        test(11, "TRADE (two SHIPS that WAIT, of which one at least KNOWS one the other does not: both KNOW all of "
+                + "both then);", () -> {
             BarPilot b = open("bar 9 1;joke 1 1 1;joke 2 2 2;joke 3 3 3;ship 1 1;ship 2 2;ship 3 3;ship 4 4"
                     + ";knows 0 0;knows 1 0;knows 1 1;knows 3 2");
             due("the first KNOWS fewer", b.trade(0, 1), 3);
@@ -373,7 +384,8 @@ final class SentencesOfActs extends Sentences {
             due("0", b.dull(1), 0);
         });
         test(13, "NONE, and nothing happens, without these.", () -> {
-            BarPilot b = open("bar 2 1;joke 1 1 1;joke 2 2 2;joke 3 3 3;ship 1 1;ship 2 2;knows 0 0;knows 1 1", "tell 0");
+            BarPilot b = open("bar 2 1;joke 1 1 1;joke 2 2 2;joke 3 3 3;ship 1 1;ship 2 2;knows 0 0"
+                    + ";knows 1 1", "tell 0");
             b.say(0, 0);
             b.tide();
             b.say(1, 1);

@@ -153,7 +153,8 @@ final class SentencesOfBars extends Sentences {
             dueBar("knows 0 0;bar 1 1", fault(0, 4));
         });
         test(4, "JOKES 0 to 7,", () -> {
-            String eight = "bar 1 1;joke 0 0 0;joke 1 1 1;joke 2 2 2;joke 3 3 3;joke 4 4 4;joke 5 5 5;joke 6 6 6;joke 7 8 9";
+            String eight = "bar 1 1;joke 0 0 0;joke 1 1 1;joke 2 2 2;joke 3 3 3;joke 4 4 4;joke 5 5 5;joke 6 6 6"
+                    + ";joke 7 8 9";
             BarPilot b = open(eight + ";ship 1 1;knows 0 7");
             due("count(2)", b.count(2), 8);
             due("joke(7, 0)", b.joke(7, 0), 7);
@@ -333,7 +334,8 @@ final class SentencesOfBars extends Sentences {
             dueBar("bar 1 1;ship 0 4294967296", fault(15, 1));
             dueBar("bar 1 1;ship 0 0;joke 1 1 1;knows 0 00000000000", fault(36, 1));
         });
-        test(4, "4 one CLAUSE too many, a second bar, another CLAUSE ahead of it, a ninth JOKE, a sixth SHIP (at its first byte).",
+        test(4, "4 one CLAUSE too many, a second bar, another CLAUSE ahead of it, a ninth JOKE, a sixth SHIP (at "
+                + "its first byte).",
                 () -> {
             dueBar(FORTY + ";  ship 1 1", fault(FORTY.length() + 3, 4));
             dueBar("bar 1 1;  bar", fault(10, 4));

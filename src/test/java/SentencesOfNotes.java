@@ -16,7 +16,8 @@ final class SentencesOfNotes extends Sentences {
 
     private static void parts() {
         test(26, "PARTS of a PURSE (0 to 9999) among SHIPS by CARGO of those that have PASSED:", () -> {
-            BarPilot b = open("bar 1 3;joke 1 1 1;joke 2 2 2;joke 3 3 3;ship 1 0;ship 3 0;ship 6 9;ship 9 9;knows 0 0;knows 1 1;knows 2 2",
+            BarPilot b = open("bar 1 3;joke 1 1 1;joke 2 2 2;joke 3 3 3;ship 1 0;ship 3 0;ship 6 9;ship 9 9"
+                    + ";knows 0 0;knows 1 1;knows 2 2",
                     "tell 1 if tide=1");
             due("nobody yet", b.parts(100, 0), 0);
             tides(b, 2);
@@ -32,9 +33,11 @@ final class SentencesOfNotes extends Sentences {
             due("purse 9999", b.parts(9999, 2), 5999);
             due("purse 10000", b.parts(10000, 2), NONE);
         });
-        test(26, "each the part downwards; what is left, one each, to those whose part lost most by that, of several the least first "
+        test(26, "each the part downwards; what is left, one each, to those whose part lost most by that, of "
+                + "several the least first "
                 + "(nothing, if that is 0 in all).", () -> {
-            BarPilot b = open("bar 1 3;joke 0 0 0;joke 1 1 1;joke 2 2 2;joke 3 3 3;joke 4 4 4;ship 99 0;ship 99 0;ship 98 0;ship 99 0"
+            BarPilot b = open("bar 1 3;joke 0 0 0;joke 1 1 1;joke 2 2 2;joke 3 3 3;joke 4 4 4;ship 99 0;ship 99 0"
+                    + ";ship 98 0;ship 99 0"
                     + ";ship 99 0;knows 0 0;knows 1 1;knows 2 2;knows 3 3;knows 4 4");
             b.tide();
             // 9999 * 99 / 494 = 2003, 419 lost; 9999 * 98 / 494 = 1983, 300 lost; 4 are left.
@@ -58,7 +61,8 @@ final class SentencesOfNotes extends Sentences {
             none.tide();
             due("0 in all", none.parts(10, 0), 0);
             due("0 in all", none.parts(10, 1), 0);
-            BarPilot zero = open("bar 1 3;joke 1 1 1;joke 2 2 2;joke 3 3 3;ship 0 0;ship 1 0;ship 1 0;knows 0 0;knows 1 1;knows 2 2");
+            BarPilot zero = open("bar 1 3;joke 1 1 1;joke 2 2 2;joke 3 3 3;ship 0 0;ship 1 0;ship 1 0;knows 0 0"
+                    + ";knows 1 1;knows 2 2");
             zero.tide();
             due("CARGO 0 has nothing", zero.parts(1, 0), 0);
             due("the least of the others", zero.parts(1, 1), 1);
@@ -121,7 +125,8 @@ final class SentencesOfNotes extends Sentences {
 
     private static void note() {
         test(28, "NOTES 0 to 9, told: on the n-th TIDE of all (0 to 60) a SHIP TOLD a JOKE, or none (NONE).", () -> {
-            BarPilot b = open("bar 9 3;joke 1 1 1;joke 2 2 2;ship 1 1;ship 1 1;knows 0 0;knows 0 1;knows 1 1", "tell 1 if tide=60");
+            BarPilot b = open("bar 9 3;joke 1 1 1;joke 2 2 2;ship 1 1;ship 1 1;knows 0 0;knows 0 1"
+                    + ";knows 1 1", "tell 1 if tide=60");
             for (int i = 1; i <= 10; i++) {
                 due("note", b.note(i, 0, NONE), i);
             }
@@ -188,7 +193,8 @@ final class SentencesOfNotes extends Sentences {
     }
 
     private static void ruled() {
-        test(29, "RULED: which of the RULES, and of none, so that from the begin on, all as the text told it, all NOTES are so: how many;", () -> {
+        test(29, "RULED: which of the RULES, and of none, so that from the begin on, all as the text told it, all "
+                + "NOTES are so: how many;", () -> {
             BarPilot b = open(TWO, "tell 1", "tell joke", "tell 1 if tide>0", "tell 9", "tell 1 if 2<1", "tell 3-joke");
             due("without NOTES all, and none", b.ruled(0), 7);
             // On TIDE 0 ship 1 tells 2 by none and by RULE 1, 1 by RULES 0, 3 and 5, none by RULES 2 and 4.
@@ -269,8 +275,10 @@ final class SentencesOfNotes extends Sentences {
             BarPilot none = open(TWO, "tell 0", "tell 1");
             none.note(0, 1, 2);
             due("none alone", none.look(0, 1), 1);
-            BarPilot five = open("bar 1 1;joke 0 0 0;joke 1 1 1;ship 1 1;ship 1 1;ship 1 1;ship 1 1;ship 1 1;knows 0 0;knows 1 0"
-                    + ";knows 2 0;knows 3 0;knows 4 0;knows 4 1", "tell 1 if joke=1", "tell 0", "tell 0", "tell 0", "tell 0", "tell 0");
+            BarPilot five = open("bar 1 1;joke 0 0 0;joke 1 1 1;ship 1 1;ship 1 1;ship 1 1;ship 1 1;ship 1 1"
+                    + ";knows 0 0;knows 1 0"
+                    + ";knows 2 0;knows 3 0;knows 4 0;knows 4 "
+                    + "1", "tell 1 if joke=1", "tell 0", "tell 0", "tell 0", "tell 0", "tell 0");
             due("ship 4 alone tells by RULE 0", five.look(0, 0), 4);
             due("0 by none, 1 by RULE 0, none by five", five.look(0, 1), 5);
             BarPilot same = open("bar 1 1;joke 1 1 1;ship 1 1;ship 1 1;knows 1 0", "tell 0");
@@ -280,7 +288,8 @@ final class SentencesOfNotes extends Sentences {
             due("both", same.look(1, 1), 2);
         });
         test(30, "LOOK (n 0 to 60) what 0: the SHIP, 1: how many; -2: no RULE is so, or there are no SHIPS.", () -> {
-            BarPilot b = open("bar 1 1;joke 1 1 1;ship 1 1;ship 1 1;knows 1 0", "tell 1 if tide=60", "tell 1 if tide=61");
+            BarPilot b = open("bar 1 1;joke 1 1 1;ship 1 1;ship 1 1"
+                    + ";knows 1 0", "tell 1 if tide=60", "tell 1 if tide=61");
             b.note(0, 1, NONE);
             due("n -1", b.look(-1, 0), NONE);
             due("n 0", b.look(0, 0), 0);
@@ -294,7 +303,8 @@ final class SentencesOfNotes extends Sentences {
             due("no RULE is so", b.look(60, 1), -2);
             due("no SHIPS", open("bar 1 1;joke 1 1 1").look(0, 0), -2);
             due("no SHIPS", open("bar 1 1;joke 1 1 1").look(0, 1), -2);
-            BarPilot later = open("bar 1 1;joke 1 1 1;ship 1 1;ship 1 1;knows 1 0", "tell 1 if tide=60", "tell 1 if tide=61");
+            BarPilot later = open("bar 1 1;joke 1 1 1;ship 1 1;ship 1 1"
+                    + ";knows 1 0", "tell 1 if tide=60", "tell 1 if tide=61");
             later.note(60, 1, NONE);
             due("a NOTE behind the TIDE that is looked for counts", later.look(0, 0), 1);
             due("none and RULE 1", later.look(0, 1), 1);
@@ -325,7 +335,8 @@ final class SentencesOfNotes extends Sentences {
     }
 
     private static void draws() {
-        test(31, "DRAWS: x (0 to 2147483647; 0 at first) becomes x * 1103515245 + 12345, of 2147483648 the rest; a DRAW is x / 65536.", () -> {
+        test(31, "DRAWS: x (0 to 2147483647; 0 at first) becomes x * 1103515245 + 12345, of 2147483648 the rest"
+                + "; a DRAW is x / 65536.", () -> {
             BarPilot b = open("bar 1 3;joke 1 1 1;ship 1 60;knows 0 0");
             due("x at first", b.count(12), 0);
             int[] seeds = {0, 1, 2, 65535, 65536, 1103515245, 1073741823, 1073741824, 2147483646, 2147483647};
@@ -390,7 +401,8 @@ final class SentencesOfNotes extends Sentences {
             b.tide();
             due("from now on", b.parrots(1, 59, 0, 1), 1);
         });
-        test(32, "ahead of each a DRAW mod 100; is it below p (0 to 100), and are there JOKES, a DRAW mod how many: he has heard that one on this TIDE:",
+        test(32, "ahead of each a DRAW mod 100; is it below p (0 to 100), and are there JOKES, a DRAW mod how "
+                + "many: he has heard that one on this TIDE:",
                 () -> {
             BarPilot b = open("bar 1 3;joke 1 1 1;ship 7 3;knows 0 0");
             for (int rest : new int[] {0, 1, 50, 98, 99}) {
@@ -406,7 +418,8 @@ final class SentencesOfNotes extends Sentences {
                     due("PASSED, p " + p, b.parrots(5, 10, p, 1), want[1]);
                 }
             }
-            BarPilot jokes = open("bar 2 3;joke 0 0 0;joke 1 1 1;joke 2 2 2;ship 1 9;ship 2 9;ship 4 9;knows 0 0;knows 1 1;knows 2 2");
+            BarPilot jokes = open("bar 2 3;joke 0 0 0;joke 1 1 1;joke 2 2 2;ship 1 9;ship 2 9;ship 4 9;knows 0 0"
+                    + ";knows 1 1;knows 2 2");
             for (int joke = 0; joke < 3; joke++) {
                 long x = 1;
                 while (next(next(x)) / 65536 % 3 != joke) {
@@ -458,7 +471,8 @@ final class SentencesOfNotes extends Sentences {
         test(33, "What 0: FADES, 1: LIKE, 2: JOKES, 3: SHIPS, 4: RULES, 5: the RULE IN FORCE (NONE), 6: TIDE, "
                 + "7: what is EARNED in all, 8: SHIPS that WAIT, as bits, 9: JOKES he REMEMBERS, as bits, 10: NOTES, "
                 + "11: ACTS that can be UNDONE, 12: x, 13: bytes of the TAPE.", () -> {
-            BarPilot b = open("bar 7 2;joke 1 2 3;joke 1 2 9;joke 4 5 6;joke 7 7 7;ship 50 2;ship 20 9;ship 3 3;ship 4 4;ship 5 5"
+            BarPilot b = open("bar 7 2;joke 1 2 3;joke 1 2 9;joke 4 5 6;joke 7 7 7;ship 50 2;ship 20 9;ship 3 3"
+                    + ";ship 4 4;ship 5 5"
                     + ";knows 0 0;knows 1 1;knows 2 2", "tell 1", "tell 2", "tell 0");
             tides(b, 2);
             b.force(2);
@@ -488,7 +502,8 @@ final class SentencesOfNotes extends Sentences {
     }
 
     private static void images() {
-        test(34, "IMAGES 0 to 3: all but the RULES and the TAPE, as it is (the RULE IN FORCE, what can be UNDONE, too);", () -> {
+        test(34, "IMAGES 0 to 3: all but the RULES and the TAPE, as it is (the RULE IN FORCE, what can be UNDONE, "
+                + "too);", () -> {
             BarPilot b = open(TWO, "tell 1", "tell joke");
             due("image(0)", b.image(0), 0);
             b.force(1);

@@ -17,7 +17,8 @@ final class SentencesOfQuestions extends Sentences {
 
     private static void ahead() {
         test(15, "(By what is asked nothing changes;", () -> {
-            BarPilot b = open("bar 3 2;joke 1 2 3;joke 1 2 9;joke 4 5 6;ship 50 2;ship 20 9;ship 7 7;knows 0 0;knows 1 1;knows 1 2"
+            BarPilot b = open("bar 3 2;joke 1 2 3;joke 1 2 9;joke 4 5 6;ship 50 2;ship 20 9;ship 7 7;knows 0 0"
+                    + ";knows 1 1;knows 1 2"
                     + ";knows 2 0", "tell 1 if ship<2", "tell joke");
             b.seed(9);
             b.note(0, 0, 0);
@@ -64,7 +65,8 @@ final class SentencesOfQuestions extends Sentences {
             since.coin(0, 1);
             due("and by since", since.ahead(0, 6, 0), 5);
             due("and by tide", open(two, "tell 1 if tide=7").ahead(0, 8, 2), 2);
-            due("what happens on a TIDE counts on the next", open(two, "tell 1 if ship=1 or passed=1").ahead(0, 2, 0), 1);
+            due("what happens on a TIDE counts on the "
+                    + "next", open(two, "tell 1 if ship=1 or passed=1").ahead(0, 2, 0), 1);
             due("and once one has faded", open(QUEUE, "tell fresh").ahead(2, 5, 0), 4);
             // An object is not used for so many calls; the sentence can be seen in no other way.
             b.force(0);
@@ -74,7 +76,8 @@ final class SentencesOfQuestions extends Sentences {
             due("over(0, 0)", b.over(0, 0), 1050);
             due("TIDE", b.count(6), 999);
         });
-        test(15, "AHEAD n TIDES (0 to 100): on which TIDE a SHIP PASSED; what is EARNED in all; how many have PASSED.", () -> {
+        test(15, "AHEAD n TIDES (0 to 100): on which TIDE a SHIP PASSED; what is EARNED in all"
+                + "; how many have PASSED.", () -> {
             BarPilot b = open("bar 1 1;joke 1 1 1;ship 5 60;ship 6 60;ship 7 60;knows 0 0;knows 1 0;knows 2 0",
                     "tell 1 if ship=0 and tide=0 or ship=1 and tide=3 or ship=2 and tide=99");
             due("n -1", b.ahead(0, -1, 1), -2);
@@ -96,7 +99,8 @@ final class SentencesOfQuestions extends Sentences {
             due("what was EARNED already", b.ahead(0, 0, 1), 5);
             due("in all", b.ahead(0, 3, 1), 11);
         });
-        test(15, "AHEAD what 0: on which TIDE the SHIP PASSED (NONE: it WAITS), 1: EARNED, 2: how many (of no SHIP).", () -> {
+        test(15, "AHEAD what 0: on which TIDE the SHIP PASSED (NONE: it WAITS), 1: EARNED, 2: how many (of no "
+                + "SHIP).", () -> {
             BarPilot b = open(QUEUE);
             due("what 0", b.ahead(1, 3, 0), 2);
             due("it WAITS", b.ahead(1, 2, 0), NONE);
@@ -123,8 +127,10 @@ final class SentencesOfQuestions extends Sentences {
     }
 
     private static void over() {
-        test(16, "OVER of a SHIP that WAITS: the first TIDE, this one the first, of 100, on which it PASSES; what it TELLS then.", () -> {
-            BarPilot b = open("bar 1 1;joke 1 1 1;joke 2 2 2;ship 5 60;ship 6 60;ship 7 60;knows 0 1;knows 1 0;knows 2 1;knows 2 0",
+        test(16, "OVER of a SHIP that WAITS: the first TIDE, this one the first, of 100, on which it PASSES"
+                + "; what it TELLS then.", () -> {
+            BarPilot b = open("bar 1 1;joke 1 1 1;joke 2 2 2;ship 5 60;ship 6 60;ship 7 60;knows 0 1;knows 1 0"
+                    + ";knows 2 1;knows 2 0",
                     "tell 1 if ship=0 and tide=0 or ship=1 and tide=99 or ship=2 and tide=100 and joke=1");
             due("this one", b.over(0, 0), 0);
             due("what it TELLS", b.over(0, 1), 1);
@@ -136,7 +142,8 @@ final class SentencesOfQuestions extends Sentences {
             due("the 100th from here", b.over(2, 0), 100);
             due("the 100th from here", b.over(2, 1), 1);
             due("the 99th from here", b.over(1, 0), 99);
-            BarPilot told = open("bar 2 3;joke 1 1 1;joke 2 2 2;ship 1 1;ship 2 2;knows 0 0;knows 1 0", "tell 1 if tide<1 or tide>2");
+            BarPilot told = open("bar 2 3;joke 1 1 1;joke 2 2 2;ship 1 1;ship 2 2;knows 0 0"
+                    + ";knows 1 0", "tell 1 if tide<1 or tide>2");
             due("it TELLS on TIDE 0, too, but does not PASS", told.over(1, 0), 3);
         });
         test(16, "OVER what 0: the TIDE, 1: the JOKE; -2: on none of these.", () -> {
@@ -160,7 +167,8 @@ final class SentencesOfQuestions extends Sentences {
 
     private static void jokes() {
         test(17, "ALIKE: of two JOKES how many parts are.", () -> {
-            BarPilot b = open("bar 1 1;joke 1 2 3;joke 3 1 2;joke 1 9 9;joke 9 2 9;joke 9 9 3;joke 1 2 9;joke 9 2 3;joke 1 2 3");
+            BarPilot b = open("bar 1 1;joke 1 2 3;joke 3 1 2;joke 1 9 9;joke 9 2 9;joke 9 9 3;joke 1 2 9"
+                    + ";joke 9 2 3;joke 1 2 3");
             int[] want = {3, 0, 1, 1, 1, 2, 2, 3};
             for (int joke = 0; joke < 8; joke++) {
                 due("alike(0, " + joke + ")", b.alike(0, joke), want[joke]);
@@ -178,7 +186,8 @@ final class SentencesOfQuestions extends Sentences {
             due("no BAR", new BarPilot().alike(0, 0), NONE);
         });
         test(18, "FRESH: JOKES that are NEW now, as bits.", () -> {
-            BarPilot b = open("bar 2 2;joke 1 1 1;joke 1 1 2;joke 3 3 3;joke 4 4 4;joke 5 5 5;joke 6 6 6;joke 7 7 7;joke 8 8 8"
+            BarPilot b = open("bar 2 2;joke 1 1 1;joke 1 1 2;joke 3 3 3;joke 4 4 4;joke 5 5 5;joke 6 6 6"
+                    + ";joke 7 7 7;joke 8 8 8"
                     + ";ship 1 1;knows 0 0");
             due("all", b.fresh(), 255);
             b.tide();
@@ -198,7 +207,8 @@ final class SentencesOfQuestions extends Sentences {
             due("no JOKES", open("bar 1 1").least(), 0);
             due("LIKE 3, 000 is free", open("bar 1 3;joke 0 0 1").least(), 0);
             due("LIKE 3", open("bar 1 3;joke 0 0 0").least(), 1);
-            due("LIKE 3", open("bar 1 3;joke 0 0 0;joke 0 0 1;joke 0 0 2;joke 0 0 3;joke 0 0 4;joke 0 0 5;joke 0 0 6;joke 0 0 7")
+            due("LIKE 3", open("bar 1 3;joke 0 0 0;joke 0 0 1;joke 0 0 2;joke 0 0 3;joke 0 0 4;joke 0 0 5"
+                    + ";joke 0 0 6;joke 0 0 7")
                     .least(), 8);
             due("LIKE 2", open("bar 1 2;joke 0 0 0").least(), 11);
             due("LIKE 2, 011 is like 5 1 1", open("bar 1 2;joke 0 0 0;joke 5 1 1").least(), 12);
@@ -216,7 +226,8 @@ final class SentencesOfQuestions extends Sentences {
         test(19, "LEAST; -2: there is none; NONE without a BAR.", () -> {
             due("no BAR", new BarPilot().least(), NONE);
             // Eight jokes leave two digits of each part, so that there always is one: this is the greatest.
-            due("the greatest", open("bar 1 1;joke 0 0 0;joke 1 1 1;joke 2 2 2;joke 3 3 3;joke 4 4 4;joke 5 5 5;joke 6 6 6;joke 7 7 7")
+            due("the greatest", open("bar 1 1;joke 0 0 0;joke 1 1 1;joke 2 2 2;joke 3 3 3;joke 4 4 4;joke 5 5 5"
+                    + ";joke 6 6 6;joke 7 7 7")
                     .least(), 888);
         });
     }
@@ -237,7 +248,8 @@ final class SentencesOfQuestions extends Sentences {
         });
         test(20, "what it TELLS on each, any that it KNOWS, or none, in place of what the RULE says "
                 + "(others by it; none any more, once it has PASSED),", () -> {
-            BarPilot b = open("bar 9 3;joke 1 1 1;joke 2 2 2;joke 3 3 3;ship 9 9;ship 8 8;ship 7 7;knows 0 1;knows 0 2;knows 1 1"
+            BarPilot b = open("bar 9 3;joke 1 1 1;joke 2 2 2;joke 3 3 3;ship 9 9;ship 8 8;ship 7 7;knows 0 1"
+                    + ";knows 0 2;knows 1 1"
                     + ";knows 2 0", "tell 1 if ship=0 and joke=2 or ship=1");
             due("not what the RULE says, but one that it KNOWS", b.row(0, 1, 1), 1);
             due("where the RULE says none", b.row(2, 1, 1), 0);
@@ -259,8 +271,10 @@ final class SentencesOfQuestions extends Sentences {
             b.force(NONE);
             due("without a RULE ship 2 waits till it is NEW, and ship 0 is ahead", b.row(0, 4, 0), 2);
         });
-        test(20, "so that it PASSES earliest; of several the first row (none ahead of JOKE 0): on which TIDE; which JOKE on which.", () -> {
-            BarPilot b = open("bar 2 3;joke 1 1 1;joke 2 2 2;joke 3 3 3;ship 5 9;ship 6 9;knows 0 0;knows 0 2;knows 0 1;knows 1 0",
+        test(20, "so that it PASSES earliest; of several the first row (none ahead of JOKE 0): on which TIDE"
+                + "; which JOKE on which.", () -> {
+            BarPilot b = open("bar 2 3;joke 1 1 1;joke 2 2 2;joke 3 3 3;ship 5 9;ship 6 9;knows 0 0;knows 0 2"
+                    + ";knows 0 1;knows 1 0",
                     "tell 0");
             b.say(1, 0);
             due("earliest", b.row(0, 4, 0), 0);
@@ -326,7 +340,8 @@ final class SentencesOfQuestions extends Sentences {
 
     private static void forget() {
         test(21, "FORGET for n TIDES (1 to 60):", () -> {
-            BarPilot b = open("bar 60 3;joke 1 1 1;ship 5 60;ship 7 60;knows 0 0;knows 1 0", "tell 1 if ship=1 and tide=60");
+            BarPilot b = open("bar 60 3;joke 1 1 1;ship 5 60;ship 7 60;knows 0 0"
+                    + ";knows 1 0", "tell 1 if ship=1 and tide=60");
             b.tide();
             b.say(0, 0);
             due("n 0", b.forget(0, 1), -2);
@@ -339,28 +354,33 @@ final class SentencesOfQuestions extends Sentences {
             now.tide();
             due("n 1", now.forget(1, 0), 0);
         });
-        test(21, "the JOKE that had best be DULLED now, of those he REMEMBERS, or none, so that most is EARNED in all by then;", () -> {
+        test(21, "the JOKE that had best be DULLED now, of those he REMEMBERS, or none, so that most is EARNED in "
+                + "all by then;", () -> {
             BarPilot b = open("bar 9 3;joke 1 1 1;joke 2 2 2;joke 3 3 3;ship 5 9;ship 6 9;ship 7 9;ship 8 9;ship 9 9"
                     + ";knows 0 0;knows 1 1;knows 2 0;knows 3 1;knows 4 0");
             b.tide();
             due("1 lets 8 past, 0 lets 7", b.forget(1, 0), 1);
             due("in all", b.forget(1, 1), 19);
-            BarPilot since = open("bar 2 3;joke 1 1 1;ship 5 9;ship 6 9;knows 0 0;knows 1 0", "tell 1 if since=2 or tide=0");
+            BarPilot since = open("bar 2 3;joke 1 1 1;ship 5 9;ship 6 9;knows 0 0"
+                    + ";knows 1 0", "tell 1 if since=2 or tide=0");
             since.say(0, 0);
             since.tide();
             due("had he forgotten it, it would not be told", since.forget(9, 0), NONE);
             due("in all", since.forget(9, 1), 11);
-            BarPilot faded = open("bar 1 1;joke 1 1 1;ship 5 9;ship 6 9;knows 0 0;knows 1 0", "tell 1 if tide=0;tell since-98");
+            BarPilot faded = open("bar 1 1;joke 1 1 1;ship 5 9;ship 6 9;knows 0 0"
+                    + ";knows 1 0", "tell 1 if tide=0;tell since-98");
             faded.tide();
             due("faded: it can't be DULLED, though since would be 99", faded.forget(3, 0), NONE);
             due("in all", faded.forget(3, 1), 5);
         });
         test(21, "of several none, then the least; how much.", () -> {
-            BarPilot b = open("bar 9 3;joke 1 1 1;joke 2 2 2;joke 3 3 3;ship 5 9;ship 6 9;ship 7 0;knows 0 1;knows 1 2;knows 2 1;knows 2 2");
+            BarPilot b = open("bar 9 3;joke 1 1 1;joke 2 2 2;joke 3 3 3;ship 5 9;ship 6 9;ship 7 0;knows 0 1"
+                    + ";knows 1 2;knows 2 1;knows 2 2");
             b.tide();
             due("none", b.forget(9, 0), NONE);
             due("how much, KEEPS is over", b.forget(9, 1), 11);
-            BarPilot two = open("bar 9 3;joke 1 1 1;joke 2 2 2;joke 3 3 3;ship 5 9;ship 6 9;ship 7 9;knows 0 1;knows 1 2;knows 2 1;knows 2 2");
+            BarPilot two = open("bar 9 3;joke 1 1 1;joke 2 2 2;joke 3 3 3;ship 5 9;ship 6 9;ship 7 9;knows 0 1"
+                    + ";knows 1 2;knows 2 1;knows 2 2");
             two.tide();
             due("1 and 2 do alike: the least", two.forget(8, 0), 1);
             due("how much", two.forget(8, 1), 18);
@@ -400,8 +420,10 @@ final class SentencesOfQuestions extends Sentences {
             due("n 61", b.barter(61, 2), -2);
             due("n 1", open("bar 1 3;joke 1 1 1;ship 7 60;ship 0 60;knows 1 0").barter(1, 2), 7);
         });
-        test(22, "two SHIPS that WAIT, which had best KNOW all of both now, or none, so that most is EARNED in all by then;", () -> {
-            BarPilot b = open("bar 60 3;joke 1 1 1;joke 2 2 2;joke 3 3 3;ship 5 9;ship 6 9;ship 7 9;ship 8 9;knows 0 0;knows 0 1;knows 3 2");
+        test(22, "two SHIPS that WAIT, which had best KNOW all of both now, or none, so that most is EARNED in all "
+                + "by then;", () -> {
+            BarPilot b = open("bar 60 3;joke 1 1 1;joke 2 2 2;joke 3 3 3;ship 5 9;ship 6 9;ship 7 9;ship 8 9"
+                    + ";knows 0 0;knows 0 1;knows 3 2");
             due("0 gives 1 to ship 2 (7)", b.barter(1, 0), 0);
             due("rather than to ship 1 (6)", b.barter(1, 1), 2);
             due("in all", b.barter(1, 2), 20);
@@ -409,7 +431,8 @@ final class SentencesOfQuestions extends Sentences {
             due("who is past gives nothing", b.barter(9, 0), NONE);
             due("who is past gives nothing", b.barter(9, 1), NONE);
             due("in all", b.barter(9, 2), 13);
-            BarPilot past = open("bar 60 3;joke 1 1 1;joke 2 2 2;joke 3 3 3;ship 5 9;ship 6 9;ship 7 9;knows 1 2;knows 2 0;knows 2 1");
+            BarPilot past = open("bar 60 3;joke 1 1 1;joke 2 2 2;joke 3 3 3;ship 5 9;ship 6 9;ship 7 9;knows 1 2"
+                    + ";knows 2 0;knows 2 1");
             past.say(1, 2);
             due("0 and 2, as 1 is past", past.barter(1, 0), 0);
             due("0 and 2, as 1 is past", past.barter(1, 1), 2);
@@ -423,14 +446,16 @@ final class SentencesOfQuestions extends Sentences {
             due("in all", worse.barter(1, 2), 11);
         });
         test(22, "of several none, then the first one least, then the other; how much.", () -> {
-            BarPilot b = open("bar 9 3;joke 1 1 1;joke 2 2 2;joke 3 3 3;ship 5 9;ship 5 9;ship 5 9;ship 5 9;knows 0 0;knows 0 1;knows 3 2");
+            BarPilot b = open("bar 9 3;joke 1 1 1;joke 2 2 2;joke 3 3 3;ship 5 9;ship 5 9;ship 5 9;ship 5 9"
+                    + ";knows 0 0;knows 0 1;knows 3 2");
             due("0 and 1, 0 and 2, 3 and 1 and more do alike", b.barter(1, 0), 0);
             due("then the other", b.barter(1, 1), 1);
             due("how much", b.barter(1, 2), 15);
             b = open("bar 9 3;joke 1 1 1;joke 2 2 2;ship 5 9;ship 5 9;ship 5 9;knows 0 0;knows 2 0;knows 2 1");
             due("1 and 2 or none: 0 passes with 0, one of them with 1", b.barter(1, 0), NONE);
             due("how much", b.barter(1, 2), 10);
-            b = open("bar 9 3;joke 1 1 1;joke 2 2 2;joke 3 3 3;ship 1 9;ship 5 9;ship 5 9;ship 5 9;knows 0 0;knows 3 1;knows 3 2");
+            b = open("bar 9 3;joke 1 1 1;joke 2 2 2;joke 3 3 3;ship 1 9;ship 5 9;ship 5 9;ship 5 9;knows 0 0"
+                    + ";knows 3 1;knows 3 2");
             due("1 and 3 ahead of 2 and 3", b.barter(1, 0), 1);
             due("1 and 3 ahead of 2 and 3", b.barter(1, 1), 3);
             due("how much", b.barter(1, 2), 11);
@@ -467,8 +492,10 @@ final class SentencesOfQuestions extends Sentences {
             due("n 61", b.school(61, 0), NONE);
             due("n 1", open("bar 1 3;joke 1 1 1;ship 7 60").school(1, 0), 1);
         });
-        test(23, "the fewest JOKES which each SHIP that WAITS KNOWS now, besides its own, so that all have PASSED then: how many;", () -> {
-            BarPilot b = open("bar 9 3;joke 1 1 1;joke 2 2 2;joke 3 3 3;ship 5 9;ship 6 3;ship 7 9;knows 0 0;knows 1 0;knows 2 0");
+        test(23, "the fewest JOKES which each SHIP that WAITS KNOWS now, besides its own, so that all have PASSED "
+                + "then: how many;", () -> {
+            BarPilot b = open("bar 9 3;joke 1 1 1;joke 2 2 2;joke 3 3 3;ship 5 9;ship 6 3;ship 7 9;knows 0 0"
+                    + ";knows 1 0;knows 2 0");
             due("two more on one TIDE", b.school(1, 0), 2);
             due("two more", b.school(9, 0), 2);
             due("one more, 0 fades on TIDE 9", b.school(10, 0), 1);
@@ -479,24 +506,29 @@ final class SentencesOfQuestions extends Sentences {
             BarPilot last = open("bar 9 3;joke 1 1 1;joke 2 2 2;ship 1 1;ship 2 2;knows 1 0;knows 1 1");
             due("one that another KNOWS already", last.school(1, 0), 1);
             due("one that another KNOWS already", last.school(1, 1), 1);
-            due("by none of all, if all are like", open("bar 9 3;joke 1 1 1;joke 1 1 1;ship 1 1;ship 1 1;knows 0 0;knows 1 0")
+            due("by none of all, if all are like", open("bar 9 3;joke 1 1 1;joke 1 1 1;ship 1 1;ship 1 1;knows 0 0"
+                    + ";knows 1 0")
                     .school(9, 0), -2);
             due("all PASS by their own", open(TWO).school(1, 0), 0);
             due("no SHIPS", open("bar 1 1;joke 1 1 1").school(1, 0), 0);
             due("no JOKES", open("bar 1 1;ship 1 1").school(60, 0), -2);
-            BarPilot all = open("bar 60 1;joke 0 0 0;joke 1 1 1;joke 2 2 2;joke 3 3 3;joke 4 4 4;joke 5 5 5;joke 6 6 6;joke 7 7 7"
+            BarPilot all = open("bar 60 1;joke 0 0 0;joke 1 1 1;joke 2 2 2;joke 3 3 3;joke 4 4 4;joke 5 5 5"
+                    + ";joke 6 6 6;joke 7 7 7"
                     + ";ship 1 1;ship 2 2;ship 3 3;ship 4 4;ship 5 5");
             due("five for five", all.school(1, 0), 5);
             due("the least five", all.school(1, 1), 31);
-            BarPilot past = open("bar 9 3;joke 1 1 1;joke 2 2 2;ship 1 1;ship 2 2;knows 0 0;knows 1 1", "tell 1 if known=1");
+            BarPilot past = open("bar 9 3;joke 1 1 1;joke 2 2 2;ship 1 1;ship 2 2;knows 0 0"
+                    + ";knows 1 1", "tell 1 if known=1");
             past.say(0, 0);
             due("who is past learns nothing", past.school(1, 0), 0);
         });
         test(23, "of several sets the least as bits.", () -> {
-            BarPilot b = open("bar 9 2;joke 1 1 1;joke 1 1 2;joke 3 3 3;joke 4 4 4;ship 1 1;ship 2 2;knows 0 0;knows 1 0");
+            BarPilot b = open("bar 9 2;joke 1 1 1;joke 1 1 2;joke 3 3 3;joke 4 4 4;ship 1 1;ship 2 2;knows 0 0"
+                    + ";knows 1 0");
             b.tide();
             due("0 and 1 are not NEW; of 2 and 3 it is 2", b.school(1, 1), 4);
-            BarPilot few = open("bar 1 3;joke 1 1 1;joke 2 2 2;joke 3 3 3;ship 5 9;ship 6 3", "tell 1 if joke=2 or joke=tide");
+            BarPilot few = open("bar 1 3;joke 1 1 1;joke 2 2 2;joke 3 3 3;ship 5 9"
+                    + ";ship 6 3", "tell 1 if joke=2 or joke=tide");
             due("one joke, though 3 as bits would be less", few.school(2, 1), 4);
         });
         test(23, "SCHOOL what 0: how many, 1: the set; -2: by none.", () -> {
@@ -520,7 +552,8 @@ final class SentencesOfQuestions extends Sentences {
     }
 
     private static void old() {
-        test(24, "OLD: of all sets of JOKES that he had heard on the TIDE ahead of TIDE 0 those by which, from the begin on, "
+        test(24, "OLD: of all sets of JOKES that he had heard on the TIDE ahead of TIDE 0 those by which, from the "
+                + "begin on, "
                 + "by a RULE (or NONE), all else as the text told it,", () -> {
             String one = ";joke 1 1 1;joke 9 9 9;ship 1 1;knows 0 0";
             due("FADES 1: forgotten on TIDE 0", open("bar 1 1" + one).old(NONE, 1, 1, 0), 4);
@@ -542,7 +575,8 @@ final class SentencesOfQuestions extends Sentences {
             due("the RULE IN FORCE is the same then", b.count(5), 0);
         });
         test(24, "so many SHIPS (0 to 5) have PASSED behind n TIDES (1 to 60):", () -> {
-            String five = "bar 2 1;joke 0 0 0;joke 1 1 1;joke 2 2 2;joke 3 3 3;joke 4 4 4;ship 1 1;ship 1 1;ship 1 1;ship 1 1"
+            String five = "bar 2 1;joke 0 0 0;joke 1 1 1;joke 2 2 2;joke 3 3 3;joke 4 4 4;ship 1 1;ship 1 1"
+                    + ";ship 1 1;ship 1 1"
                     + ";ship 1 1;knows 0 0;knows 1 1;knows 2 2;knows 3 3;knows 4 4";
             BarPilot b = open(five, "tell 1 if tide=59");
             int[] choose = {1, 5, 10, 10, 5, 1};
@@ -572,7 +606,8 @@ final class SentencesOfQuestions extends Sentences {
             due("the least", b.old(NONE, 1, 2, 1), 0);
             due("in all", b.old(NONE, 1, 2, 2), 0);
             due("without such", b.old(NONE, 1, 3, 2), 0);
-            BarPilot all = open("bar 2 1;joke 0 0 0;joke 1 1 1;joke 2 2 2;joke 3 3 3;joke 4 4 4;joke 5 5 5;joke 6 6 6;joke 7 7 7"
+            BarPilot all = open("bar 2 1;joke 0 0 0;joke 1 1 1;joke 2 2 2;joke 3 3 3;joke 4 4 4;joke 5 5 5"
+                    + ";joke 6 6 6;joke 7 7 7"
                     + ";ship 1 1;knows 0 0;knows 0 1;knows 0 2;knows 0 3;knows 0 4;knows 0 5;knows 0 6;knows 0 7");
             due("all eight", all.old(NONE, 1, 0, 1), 255);
             due("all eight", all.old(NONE, 1, 0, 2), 255);
@@ -621,12 +656,16 @@ final class SentencesOfQuestions extends Sentences {
             due("one that has PASSED", b.game(2, 1, 1, 0), -1000);
             due("one that has PASSED", b.game(1, 2, 1, 0), -1000);
         });
-        test(25, "by turns, the first one first, one TELLS a JOKE that it KNOWS, any, or none (none, if it has PASSED), "
+        test(25, "by turns, the first one first, one TELLS a JOKE that it KNOWS, any, or none (none, if it has "
+                + "PASSED), "
                 + "nobody else does; then TIDE is 1 more;", () -> {
-            due("the first one first", open("bar 9 3;joke 1 1 1;ship 9 9;ship 4 9;knows 0 0;knows 1 0").game(1, 0, 2, 0), 4);
+            due("the first one first", open("bar 9 3;joke 1 1 1;ship 9 9;ship 4 9;knows 0 0"
+                    + ";knows 1 0").game(1, 0, 2, 0), 4);
             due("one that it KNOWS", open("bar 9 3;joke 1 1 1;ship 9 9;ship 4 9;knows 1 0").game(0, 1, 1, 0), 0);
-            due("the second turn is on TIDE 1", open("bar 9 3;joke 1 1 1;ship 9 9;ship 4 1;knows 1 0").game(0, 1, 2, 0), -4);
-            due("the second turn is on TIDE 1", open("bar 9 3;joke 1 1 1;ship 9 9;ship 4 0;knows 1 0").game(0, 1, 2, 0), 0);
+            due("the second turn is on TIDE 1", open("bar 9 3;joke 1 1 1;ship 9 9;ship 4 1"
+                    + ";knows 1 0").game(0, 1, 2, 0), -4);
+            due("the second turn is on TIDE 1", open("bar 9 3;joke 1 1 1;ship 9 9;ship 4 0"
+                    + ";knows 1 0").game(0, 1, 2, 0), 0);
             String third = ";ship 4 9;ship 1 1;knows 0 0;knows 2 0";
             for (int keeps = 1; keeps <= 2; keeps++) {
                 BarPilot b = open("bar 2 3;joke 1 1 1;ship 9 " + keeps + third);
@@ -635,16 +674,20 @@ final class SentencesOfQuestions extends Sentences {
             }
             due("who has PASSED tells none, so it has its cargo once",
                     open("bar 9 3;joke 1 1 1;joke 2 2 2;ship 9 9;ship 4 9;knows 0 0;knows 0 1").game(0, 1, 3, 0), 9);
-            due("nobody else tells", open("bar 9 3;joke 1 1 1;ship 5 9;ship 6 9;ship 7 9;knows 1 0;knows 2 0").game(0, 1, 2, 0), -6);
+            due("nobody else tells", open("bar 9 3;joke 1 1 1;ship 5 9;ship 6 9;ship 7 9;knows 1 0"
+                    + ";knows 2 0").game(0, 1, 2, 0), -6);
             BarPilot forced = open("bar 9 3;joke 1 1 1;joke 2 2 2;ship 5 9;ship 6 9;knows 0 1;knows 1 0", "tell 0");
             due("any, whatever the RULE says", forced.game(0, 1, 1, 1), 1);
         });
-        test(25, "the first one wants what it EARNS in these less what the other one does to be most, the second one least, "
+        test(25, "the first one wants what it EARNS in these less what the other one does to be most, the second "
+                + "one least, "
                 + "if both do their best: how much;", () -> {
-            BarPilot b = open("bar 9 2;joke 3 3 3;joke 1 1 1;joke 1 1 2;ship 10 9;ship 30 9;knows 0 0;knows 0 1;knows 1 2");
+            BarPilot b = open("bar 9 2;joke 3 3 3;joke 1 1 1;joke 1 1 2;ship 10 9;ship 30 9;knows 0 0;knows 0 1"
+                    + ";knows 1 2");
             due("1 is like 2, which the other one has", b.game(0, 1, 2, 0), 10);
             due("so it tells 1 rather than 0", b.game(0, 1, 2, 1), 1);
-            BarPilot spoil = open("bar 2 3;joke 1 1 1;joke 2 2 2;ship 50 9;ship 4 9;ship 1 1;knows 0 0;knows 1 0;knows 1 1;knows 2 0");
+            BarPilot spoil = open("bar 2 3;joke 1 1 1;joke 2 2 2;ship 50 9;ship 4 9;ship 1 1;knows 0 0;knows 1 0"
+                    + ";knows 1 1;knows 2 0");
             spoil.say(2, 0);
             due("the second one tells 0 anew, so that it does not fade, rather than have 4", spoil.game(0, 1, 3, 0), 0);
             due("what was EARNED ahead of it does not count", spoil.game(0, 1, 1, 0), 0);
@@ -654,9 +697,11 @@ final class SentencesOfQuestions extends Sentences {
 
     private static void gameByNumbers() {
         test(25, "what the first one TELLS first (the least that does; none ahead of all).", () -> {
-            due("of 1 and 2 the least", open("bar 9 3;joke 1 1 1;joke 2 2 2;joke 3 3 3;ship 9 9;ship 4 9;knows 0 1;knows 0 2")
+            due("of 1 and 2 the least", open("bar 9 3;joke 1 1 1;joke 2 2 2;joke 3 3 3;ship 9 9;ship 4 9;knows 0 1"
+                    + ";knows 0 2")
                     .game(0, 1, 1, 1), 1);
-            due("none, if nothing is to be had", open("bar 9 3;joke 1 1 1;ship 0 9;ship 4 9;knows 0 0").game(0, 1, 1, 1), NONE);
+            due("none, if nothing is to be had", open("bar 9 3;joke 1 1 1;ship 0 9;ship 4 9"
+                    + ";knows 0 0").game(0, 1, 1, 1), NONE);
             BarPilot b = open("bar 2 3;joke 1 1 1;ship 9 9;ship 4 9;ship 1 1;knows 0 0;knows 2 0");
             b.say(2, 0);
             due("none, though 0 would do as well", b.game(0, 1, 3, 1), NONE);

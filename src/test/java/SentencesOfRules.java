@@ -20,7 +20,8 @@ final class SentencesOfRules extends Sentences {
     /** Joke 0 was heard from ship 1 so many tides ago. */
     private static Supplier<BarPilot> heard(int ago) {
         return () -> {
-            BarPilot b = open("bar 60 3;joke 1 1 1;joke 9 9 9;ship 60 10;ship 1 1;knows 0 0;knows 0 1;knows 1 0", "tell 0");
+            BarPilot b = open("bar 60 3;joke 1 1 1;joke 9 9 9;ship 60 10;ship 1 1;knows 0 0;knows 0 1"
+                    + ";knows 1 0", "tell 0");
             b.say(1, 0);
             return tides(b, ago);
         };
@@ -117,7 +118,8 @@ final class SentencesOfRules extends Sentences {
         test(5, "TEST: PART { or PART }. PART: FACT { and FACT }.", () -> {
             dueTrue(SentencesOfRules::plain, "1<2 and 1<2", "2<1 or 1<2", "1<2 or 2<1", "2<1 and 2<1 or 1<2",
                     "1<2 or 2<1 and 2<1", "2<1 or 2<1 or 1<2", "1<2 and 1<2 and 1<2",
-                    "2<1 or 1<2 and 1<2 or 2<1", "1<2 and 2<1 or 1<2 and 1<2", "1<2 or not 1<2", "2<1 and not 2<1 or 1<2",
+                    "2<1 or 1<2 and 1<2 or 2<1", "1<2 and 2<1 or 1<2 and "
+                            + "1<2", "1<2 or not 1<2", "2<1 and not 2<1 or 1<2",
                     "1<2 and not 2<1 and not 2<1", "2<1 or not 2<1 or not 1<2", times("1<2 and ", 14) + "1<2",
                     times("2<1 or ", 14) + "1<2");
             dueFalse(SentencesOfRules::plain, "1<2 and 2<1", "2<1 and 1<2", "2<1 or 2<1", "2<1 and 1<2 or 2<1",
@@ -223,7 +225,8 @@ final class SentencesOfRules extends Sentences {
     private static void words() {
         test(5, "of a SHIP that WAITS and of a JOKE it KNOWS: ship, joke, cargo,", () -> {
             dueTrue(SentencesOfRules::plain, "ship=0", "joke=0", "cargo=60");
-            BarPilot b = open("bar 9 3;joke 1 1 1;joke 2 2 2;joke 3 3 3;ship 7 9;ship 8 9;knows 0 0;knows 0 2;knows 1 0;knows 1 1",
+            BarPilot b = open("bar 9 3;joke 1 1 1;joke 2 2 2;joke 3 3 3;ship 7 9;ship 8 9;knows 0 0;knows 0 2"
+                    + ";knows 1 0;knows 1 1",
                     "tell 1+joke if joke=2-ship and cargo=7+ship");
             due("both", b.tide(), 3);
             due("ship 0 told 2, ship 1 told 1", b.count(9), 6);
@@ -233,7 +236,8 @@ final class SentencesOfRules extends Sentences {
         });
         test(5, "keeps (KEEPS less TIDE),", () -> {
             dueTrue(SentencesOfRules::plain, "keeps=10");
-            dueTrue(() -> tides(open("bar 9 3;joke 1 1 1;joke 9 9 9;ship 6 3;knows 0 0;knows 0 1", "tell 0"), 3), "keeps=0");
+            dueTrue(() -> tides(open("bar 9 3;joke 1 1 1;joke 9 9 9;ship 6 3;knows 0 0"
+                    + ";knows 0 1", "tell 0"), 3), "keeps=0");
             dueTrue(late(0), "keeps=0");
             dueTrue(late(1), "keeps=0-1");
         });
@@ -261,7 +265,8 @@ final class SentencesOfRules extends Sentences {
             };
             dueTrue(two, "like=1");
             for (int like = 0; like <= 3; like++) {
-                BarPilot b = open("bar 9 3;joke 1 1 1;joke 3 2 1;joke 4 1 1;joke 1 1 1;joke 9 9 9;ship 5 5;ship 6 6;knows 1 0"
+                BarPilot b = open("bar 9 3;joke 1 1 1;joke 3 2 1;joke 4 1 1;joke 1 1 1;joke 9 9 9;ship 5 5"
+                        + ";ship 6 6;knows 1 0"
                         + ";knows 0 1;knows 0 2;knows 0 3;knows 0 4", "tell 1 if like=" + like);
                 b.say(1, 0);
                 b.tide();
@@ -278,7 +283,8 @@ final class SentencesOfRules extends Sentences {
         test(5, "known (how many SHIPS that WAIT KNOW it),", () -> {
             dueTrue(SentencesOfRules::plain, "known=1");
             dueTrue(heard(0), "known=1");
-            String bar = "bar 9 3;joke 1 1 1;joke 2 2 2;joke 9 9 9;ship 1 1;ship 2 2;ship 3 3;ship 4 4;ship 5 5;knows 0 0"
+            String bar = "bar 9 3;joke 1 1 1;joke 2 2 2;joke 9 9 9;ship 1 1;ship 2 2;ship 3 3;ship 4 4;ship 5 5"
+                    + ";knows 0 0"
                     + ";knows 0 2;knows 1 0;knows 1 1;knows 2 0;knows 3 0;knows 4 0";
             dueTrue(() -> open(bar), "known=5");
             dueTrue(() -> {
@@ -290,8 +296,10 @@ final class SentencesOfRules extends Sentences {
         test(5, "waiting (how many do),", () -> {
             dueTrue(SentencesOfRules::plain, "waiting=1");
             dueTrue(heard(0), "waiting=1");
-            BarPilot b = open("bar 9 3;joke 0 0 0;joke 1 1 1;joke 2 2 2;joke 3 3 3;joke 4 4 4;joke 5 5 5;ship 1 1;ship 1 1"
-                    + ";ship 1 1;ship 1 1;ship 1 1;knows 0 5;knows 1 4;knows 2 3;knows 3 2;knows 4 1", "tell 1 if waiting=joke");
+            BarPilot b = open("bar 9 3;joke 0 0 0;joke 1 1 1;joke 2 2 2;joke 3 3 3;joke 4 4 4;joke 5 5 5;ship 1 1"
+                    + ";ship 1 1"
+                    + ";ship 1 1;ship 1 1;ship 1 1;knows 0 5;knows 1 4;knows 2 3;knows 3 2"
+                    + ";knows 4 1", "tell 1 if waiting=joke");
             due("from 5 on down to 1", b.tide(), 31);
         });
         test(5, "since (TIDES since he heard it, 99 at most; 99 if never),", () -> {
@@ -312,7 +320,8 @@ final class SentencesOfRules extends Sentences {
             dueTrue(heard(0), "passed=1", "tide=0");
             dueTrue(heard(3), "passed=1", "tide=3");
             BarPilot b = open("bar 9 3;joke 0 0 0;joke 1 1 1;joke 2 2 2;joke 3 3 3;joke 4 4 4;ship 1 1;ship 1 1"
-                    + ";ship 1 1;ship 1 1;ship 1 1;knows 0 0;knows 1 1;knows 2 2;knows 3 3;knows 4 4", "tell 1 if passed=joke");
+                    + ";ship 1 1;ship 1 1;ship 1 1;knows 0 0;knows 1 1;knows 2 2;knows 3 3"
+                    + ";knows 4 4", "tell 1 if passed=joke");
             due("from 0 on up to 4", b.tide(), 31);
         });
     }
@@ -360,7 +369,8 @@ final class SentencesOfRules extends Sentences {
             String right = "tell 1" + times("+1", 57) + " if 1<";
             dueRule(right + " 1", fault(right.length() + 1, 3));
         });
-        test(5, "4 one CLAUSE too many, a second bar, another CLAUSE ahead of it, a ninth JOKE, a sixth SHIP (at its first byte).",
+        test(5, "4 one CLAUSE too many, a second bar, another CLAUSE ahead of it, a ninth JOKE, a sixth SHIP (at "
+                + "its first byte).",
                 () -> {
             dueRule(TWELVE + ";  tell", fault(TWELVE.length() + 3, 4));
             dueRule(TWELVE + "  ", 0);
