@@ -184,6 +184,14 @@ final class SentencesOfRules extends Sentences {
             dueRule("tell 1 if not [not 1<2" + times(" or [1<2]", 18) + "]", 0);
             dueRule("tell 1" + times("+1", 47) + times(";tell 1", 11) + "+1", 0);
             dueRule("tell 1" + times("+1", 48) + times(";tell 1", 11) + "+1", fault(6 + 96 + 77 + 1, 3));
+            // 40 and 15 and 2 and 3; the first clause's test does not hold, as its last not is one of nine.
+            String full = "tell 1" + times("+1", 39) + " if " + times(times("not ", 10) + "1<2 and ", 4) + times("not ", 9)
+                    + "1<2;tell joke+1 if 1<2";
+            String padded = full + times(" ", 400 - full.length());
+            due("60 in 400 bytes, the last clause counts", open("bar 9 3;joke 1 1 1;joke 2 2 2;ship 1 1;knows 0 0"
+                    + ";knows 0 1", padded)
+                    .over(0, 1), 1);
+            dueRule(full + "+1", fault(full.length() + 1, 3));
         });
     }
 
