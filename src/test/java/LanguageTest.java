@@ -1,4 +1,6 @@
 import java.io.IOException;
+import java.io.PrintWriter;
+import java.io.StringWriter;
 import java.lang.reflect.Constructor;
 import java.lang.reflect.Field;
 import java.lang.reflect.Method;
@@ -8,10 +10,13 @@ import java.nio.file.Path;
 import java.util.ArrayList;
 import java.util.Arrays;
 import java.util.List;
+import java.util.Map;
 import java.util.Set;
+import java.util.TreeMap;
 import java.util.TreeSet;
 import java.util.regex.Matcher;
 import java.util.regex.Pattern;
+import java.util.spi.ToolProvider;
 
 /** Those rules of LANGUAGE.md that can be told from the compiled class and from the text, run from the project's root. */
 public final class LanguageTest {
@@ -154,10 +159,75 @@ public final class LanguageTest {
         }
     }
 
+    /** Which methods call which, by the compiled classes; a method goes by its class and name. */
+    private static Map<String, Set<String>> callGraph() {
+        Map<String, Set<String>> calls = new TreeMap<>();
+        List<Class<?>> classes = new ArrayList<>(Arrays.asList(BarPilot.class.getDeclaredClasses()));
+        classes.add(BarPilot.class);
+        Pattern head = Pattern.compile("^  [^ ].*?([\\w$.]+)\\(.*\\);$");
+        Pattern call = Pattern.compile("// (?:Interface)?Method (?:(BarPilot[\\w$]*)\\.)?\"?([\\w<>]+)\"?:");
+        for (Class<?> one : classes) {
+            StringWriter text = new StringWriter();
+            PrintWriter out = new PrintWriter(text);
+            ToolProvider.findFirst("javap").orElseThrow().run(out, out, "-p", "-c", "-cp",
+                    System.getProperty("java.class.path"), one.getName());
+            String now = null;
+            for (String line : text.toString().split("\n")) {
+                Matcher begins = head.matcher(line);
+                if (begins.matches()) {
+                    boolean makes = begins.group(1).equals(one.getName());
+                    now = one.getName() + "." + (makes ? "<init>" : begins.group(1));
+                    calls.putIfAbsent(now, new TreeSet<>());
+                }
+                Matcher found = call.matcher(line);
+                if (now != null && found.find()) {
+                    String owner = found.group(1) == null ? one.getName() : found.group(1);
+                    calls.get(now).add(owner + "." + found.group(2));
+                }
+            }
+        }
+        return calls;
+    }
+
+    private static List<String> longest(Map<String, Set<String>> calls, String from, Set<String> open) {
+        List<String> best = new ArrayList<>();
+        for (String next : calls.get(from)) {
+            // A library's method is in no class here; one that stands open already is recursion.
+            if (calls.containsKey(next) && open.add(next)) {
+                List<String> chain = longest(calls, next, open);
+                best = chain.size() > best.size() ? chain : best;
+                open.remove(next);
+            }
+        }
+        best.add(0, from);
+        return best;
+    }
+
+    private static void checkDepth() {
+        Map<String, Set<String>> calls = callGraph();
+        int deepest = 0;
+        for (String face : FACE) {
+            String from = "BarPilot." + face.substring(0, face.indexOf(' '));
+            if (!calls.containsKey(from)) {
+                fail("rule 11: the calls of " + from + " can't be seen");
+                continue;
+            }
+            List<String> chain = longest(calls, from, new TreeSet<>(Set.of(from)));
+            deepest = Math.max(deepest, chain.size());
+            if (chain.size() > 8) {
+                fail("rule 11, more than eight deep: " + chain);
+            }
+        }
+        if (deepest < 3) {
+            fail("rule 11: no calls were found");
+        }
+    }
+
     public static void main(String[] args) throws IOException {
         checkFace();
         checkClasses();
         checkText();
+        checkDepth();
         System.out.println(wrong == 0 ? "the class keeps to the language" : wrong + " rules broken");
         if (wrong != 0) {
             System.exit(1);

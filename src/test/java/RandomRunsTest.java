@@ -116,6 +116,48 @@ public final class RandomRunsTest {
         return b.toString();
     }
 
+    private String times(String text, int many) {
+        return text.repeat(Math.max(0, many));
+    }
+
+    /** A rule about as deep, as long or of as many values as may be, or a little more. */
+    String fullRuleText() {
+        switch (upTo(4)) {
+            case 0: {
+                StringBuilder open = new StringBuilder();
+                StringBuilder shut = new StringBuilder();
+                for (int i = 8 + upTo(5); i > 0; i--) {
+                    boolean not = chance(50);
+                    open.append(not ? "not " : "[").append(blanks());
+                    shut.append(not ? "" : "]");
+                }
+                String beside = chance(30) ? " and not [not joke<2] or " + fact(2) : "";
+                return "tell 1 if " + open + plainFact().replace("not ", "") + shut + beside;
+            }
+            case 1:
+                return "tell " + value() + times((chance(50) ? "+" : "%") + upTo(9), 56 + upTo(5))
+                        + (chance(50) ? " if 1<" + value() : ";tell 1");
+            case 2:
+                return "tell 0 if 1<0" + times(" or " + upTo(3) + "=" + upTo(3), 17 + upTo(3)) + "+1+1";
+            default:
+                return "tell 1" + times(";tell " + upTo(9), 10 + upTo(3)) + times(";tells 1", upTo(2));
+        }
+    }
+
+    /** A bar of about as many clauses, jokes or ships as may be, or a few more. */
+    String fullBarText() {
+        switch (upTo(3)) {
+            case 0:
+                return "bar 1 1;joke 0 1 2;ship 1 1" + times(";knows0 0", 36 + upTo(3))
+                        + (chance(50) ? ";" : "") + (chance(50) ? "joke 1 1 1" : "");
+            case 1:
+                return "bar 9 2" + times(";joke 1 2 " + upTo(10), 7 + upTo(3)) + ";ship 1 1;knows 0 " + (6 + upTo(3));
+            default:
+                return "bar 9 3" + times(";ship " + upTo(99) + " 9", 4 + upTo(3)) + ";joke 1 1 1;knows " + (3 + upTo(3))
+                        + " 0";
+        }
+    }
+
     /** A few bytes put in, taken out or changed; most such texts have a fault. */
     String spoiled(String text) {
         StringBuilder b = new StringBuilder(text);
@@ -267,9 +309,10 @@ public final class RandomRunsTest {
         Both both = new Both();
         for (int i = 0; i < many; i++) {
             boolean bar = chance(50);
-            String text = bar ? barText() : ruleText();
+            boolean full = chance(25);
+            String text = bar ? (full ? fullBarText() : barText()) : (full ? fullRuleText() : ruleText());
             both.call("end", 0);
-            both.text(cut(chance(85) ? spoiled(text) : text));
+            both.text(cut(chance(full ? 30 : 85) ? spoiled(text) : text));
             int answer = both.call(bar ? "bar" : "rule");
             if (!bar && answer == 5) {
                 return;
